@@ -62,7 +62,7 @@ public final class LinkHouse {
     private Row out;
     private Row draft;
     private final Row store;
-    private final ObjectFile[] modules;
+    private final ObjectFile[] members;
     private final int[] ends;
     private int files;
     private final int[] marks;
@@ -82,16 +82,16 @@ public final class LinkHouse {
         out = new Row(OUT_LIMIT);
         draft = new Row(OUT_LIMIT);
         store = new Row(FILES * TAPE_LIMIT);
-        modules = new ObjectFile[OBJECTS];
-        for (int i = 0; i < modules.length; i++) {
-            modules[i] = new ObjectFile(store, i / MEMBERS, i % MEMBERS);
+        members = new ObjectFile[OBJECTS];
+        for (int i = 0; i < members.length; i++) {
+            members[i] = new ObjectFile(store, i / MEMBERS, i % MEMBERS);
         }
         ends = new int[FILES + 1];
         marks = new int[TAPE_LIMIT];
         given = new Names(LISTED);
         wished = new Names(LISTED);
         probe = new Name();
-        link = new Link(modules, given, wished, store);
+        link = new Link(members, given, wished, store);
         pool = new Pool(store);
         layout = new Layout(link, pool);
         filler = new Filler(link, layout, pool, store);
@@ -180,7 +180,7 @@ public final class LinkHouse {
     }
 
     public int pack() {
-        if (!scribe.writePacked(draft, modules)) {
+        if (!scribe.writePacked(draft, members)) {
             return -1;
         }
         return publishDraft();
@@ -362,7 +362,12 @@ public final class LinkHouse {
     private int runLink(boolean reached) {
         int answer = link.resolve(reached);
         if (answer == 0) {
-            answer = makeFile();
+            layout.lay();
+            answer = layout.isTooLarge() ? 3 : 0;
+        }
+        if (answer == 0) {
+            filler.write();
+            answer = filler.fillSites() ? 0 : 4;
         }
         link.answer = answer;
         if (answer == 0) {
@@ -373,15 +378,6 @@ public final class LinkHouse {
             link.blamed.writeTo(out);
         }
         return answer;
-    }
-
-    private int makeFile() {
-        layout.lay();
-        if (layout.isTooLarge()) {
-            return 3;
-        }
-        filler.write();
-        return filler.fillSites() ? 0 : 4;
     }
 
     /** The draft and OUT change places, so that nothing is copied. */
@@ -408,7 +404,7 @@ public final class LinkHouse {
         if (i < 0 || i >= files || k < 0 || k >= MEMBERS) {
             return null;
         }
-        ObjectFile m = modules[i * MEMBERS + k];
+        ObjectFile m = members[i * MEMBERS + k];
         return m.kind == ABSENT ? null : m;
     }
 
@@ -419,7 +415,7 @@ public final class LinkHouse {
 
     private void clearFile(int file) {
         for (int k = 0; k < MEMBERS; k++) {
-            modules[file * MEMBERS + k].open(ABSENT, 0, 0);
+            members[file * MEMBERS + k].open(ABSENT, 0, 0);
         }
         store.size = ends[file];
     }
@@ -430,8 +426,8 @@ public final class LinkHouse {
         if (tape.size >= ARCHIVE.length && tape.begins(ARCHIVE)) {
             return readArchive(first, base);
         }
-        modules[first].open(ALONE, base, tape.size);
-        return modules[first].readError(marks);
+        members[first].open(ALONE, base, tape.size);
+        return members[first].readError(marks);
     }
 
     private int readArchive(int first, int base) {
@@ -442,7 +438,7 @@ public final class LinkHouse {
                 return 8;
             }
             int kind = tape.at(at) == 0x2f ? INDEX : MEMBER;
-            modules[first + k].open(kind, base + at + 60, n);
+            members[first + k].open(kind, base + at + 60, n);
             at += 60 + n + (n & 1);
         }
         if (at != tape.size) {
@@ -450,7 +446,7 @@ public final class LinkHouse {
         }
         int error = 0;
         for (int k = 0; k < MEMBERS && error == 0; k++) {
-            ObjectFile m = modules[first + k];
+            ObjectFile m = members[first + k];
             error = m.kind == MEMBER ? m.readError(marks) : 0;
         }
         return error;
@@ -792,6 +788,7 @@ public final class LinkHouse {
         int symbols;
         int namePlace;
         int nameSize;
+        int stringsBits;
         boolean taken;
         int cause;
 
@@ -929,7 +926,11 @@ public final class LinkHouse {
             if (!areSitesGood(marks)) {
                 return 7;
             }
-            return areGroupsGood() ? 0 : 9;
+            if (!areGroupsGood()) {
+                return 9;
+            }
+            findStrings();
+            return 0;
         }
 
         private boolean isHeadGood() {
@@ -1038,7 +1039,7 @@ public final class LinkHouse {
         }
 
         private boolean areSitesGood(int[] marks) {
-            Arrays.fill(marks, 0);
+            Arrays.fill(marks, 0, Math.min(Math.max(size, 0), marks.length), 0);
             for (int i = 0; i < sections; i++) {
                 int target = targetOf(i);
                 if (target < 0) {
@@ -1106,29 +1107,40 @@ public final class LinkHouse {
             return true;
         }
 
-        /** Asked of a kept section of group 1 alone. */
-        boolean isStrings(int i) {
-            long length = lengthOf(i);
-            if ((flagsOf(i) & 0x30) != 0x30 || alignOf(i) > 1 || length == 0
-                    || num((int) (placeOf(i) + length) - 1, 1) != 0) {
-                return false;
-            }
-            for (int k = 0; k < sections; k++) {
-                if (typeOf(k) == 4 && infoOf(k) == i) {
-                    return false;
+        private void findStrings() {
+            stringsBits = 0;
+            for (int i = 0; i < sections; i++) {
+                if (groupOf(i) == 1 && isStringRow(i)) {
+                    stringsBits |= 1 << i;
                 }
             }
-            return true;
+            for (int i = 0; i < sections; i++) {
+                int target = targetOf(i);
+                if (target >= 0) {
+                    stringsBits &= ~(1 << target);
+                }
+            }
+        }
+
+        private boolean isStringRow(int i) {
+            long length = lengthOf(i);
+            return (flagsOf(i) & 0x30) == 0x30 && alignOf(i) <= 1 && length > 0
+                    && num((int) (placeOf(i) + length) - 1, 1) == 0;
+        }
+
+        boolean isStrings(int i) {
+            return (stringsBits >> i & 1) != 0;
         }
     }
 
     /** The taking of objects: whose names are defined where, and which sections stay. */
     private static final class Link {
-        final ObjectFile[] modules;
+        final ObjectFile[] members;
         final Names given;
         final Names wished;
         final Names names;
         final Part[] parts;
+        final Part noPart;
         final ObjectFile[] objects;
         final ObjectFile noObject;
         final Name[] symbolNames;
@@ -1144,12 +1156,16 @@ public final class LinkHouse {
         int answer;
         long overrun;
 
-        Link(ObjectFile[] modules, Names given, Names wished, Row store) {
-            this.modules = modules;
+        Link(ObjectFile[] members, Names given, Names wished, Row store) {
+            this.members = members;
             this.given = given;
             this.wished = wished;
             names = new Names(NAMES);
             parts = new Part[OBJECTS * SECTIONS];
+            for (int i = 0; i < parts.length; i++) {
+                parts[i] = new Part();
+            }
+            noPart = new Part();
             objects = new ObjectFile[OBJECTS];
             noObject = new ObjectFile(store, 0, 0);
             symbolNames = new Name[OBJECTS * SYMBOLS];
@@ -1169,13 +1185,7 @@ public final class LinkHouse {
 
         Part part(int t, int s) {
             int i = t * SECTIONS + s;
-            if (i < 0 || i >= parts.length) {
-                return new Part();
-            }
-            if (parts[i] == null) {
-                parts[i] = new Part();
-            }
-            return parts[i];
+            return i >= 0 && i < parts.length ? parts[i] : noPart;
         }
 
         /** The name of a symbol of the t-th object taken; null for a local one. */
@@ -1196,11 +1206,12 @@ public final class LinkHouse {
             if (n != null) {
                 return n.home == IN_SECTION ? n.part : null;
             }
-            int where = j == 0 ? 0 : object(t).whereOf(j);
-            if (where <= 0 || where >= SECTIONS) {
+            ObjectFile m = object(t);
+            long where = j == 0 ? 0 : m.num(m.symbolPlace + 24 * j + 6, 2);
+            if (where == 0 || where >= SECTIONS) {
                 return null;
             }
-            Part p = part(t, where);
+            Part p = part(t, (int) where);
             return p.state == KEPT ? p : null;
         }
 
@@ -1217,9 +1228,7 @@ public final class LinkHouse {
         int countStaying() {
             int all = 0;
             for (int i = 0; i < taken * SECTIONS && i < parts.length; i++) {
-                if (parts[i] != null && parts[i].stays) {
-                    all++;
-                }
+                all += parts[i].stays ? 1 : 0;
             }
             return all;
         }
@@ -1227,7 +1236,7 @@ public final class LinkHouse {
         int resolve(boolean reached) {
             begin();
             for (int f = 0; f < FILES; f++) {
-                ObjectFile first = modules[f * MEMBERS];
+                ObjectFile first = members[f * MEMBERS];
                 boolean single = first.kind == ALONE ? takeObject(first) : takeMembers(f);
                 if (!single) {
                     return 1;
@@ -1247,9 +1256,9 @@ public final class LinkHouse {
         }
 
         private void begin() {
-            for (int i = 0; i < modules.length; i++) {
-                modules[i].taken = false;
-                modules[i].cause = 0;
+            for (int i = 0; i < members.length; i++) {
+                members[i].taken = false;
+                members[i].cause = 0;
             }
             taken = 0;
             ordered = 0;
@@ -1276,7 +1285,7 @@ public final class LinkHouse {
             for (int round = 0; more && round <= MEMBERS; round++) {
                 more = false;
                 for (int k = 0; k < MEMBERS; k++) {
-                    ObjectFile m = modules[f * MEMBERS + k];
+                    ObjectFile m = members[f * MEMBERS + k];
                     int wantedOne = m.kind == MEMBER && !m.taken ? firstWanted(m) : 0;
                     if (wantedOne > 0) {
                         m.cause = wantedOne;
@@ -1332,7 +1341,7 @@ public final class LinkHouse {
                 p.size = group < 0 ? 0 : (int) m.lengthOf(s);
                 p.align = group < 0 ? 1 : (int) Math.max(1, m.alignOf(s));
                 p.start = group < 0 ? 0 : m.base + (int) m.placeOf(s);
-                p.strings = group == 1 && m.isStrings(s);
+                p.strings = group >= 0 && m.isStrings(s);
                 p.address = 0;
                 p.fresh = 0;
             }
@@ -1620,8 +1629,14 @@ public final class LinkHouse {
             return true;
         }
 
-        /** The address of byte k of a strings' section; of all beyond its size the pool's end. */
-        long byteAddress(Part p, long k) {
+        /** The address of byte k of a section; of a strings' one by the pool, whose end is all beyond. */
+        long addressIn(Part p, long k) {
+            if (!p.stays) {
+                return 0;
+            }
+            if (!p.strings) {
+                return p.address + k;
+            }
             if (k < 0 || k >= p.size) {
                 return address + size;
             }
@@ -1716,7 +1731,7 @@ public final class LinkHouse {
             for (int i = 0; i < count; i++) {
                 Part p = partAt(i);
                 if (p.strings) {
-                    p.address = pool.byteAddress(p, 0);
+                    p.address = pool.addressIn(p, 0);
                 }
             }
             for (int i = 0; i < link.names.count; i++) {
@@ -1745,7 +1760,7 @@ public final class LinkHouse {
         private void findSlots() {
             slotCount = 0;
             slotPlace = 0;
-            Arrays.fill(localSlots, 0);
+            Arrays.fill(localSlots, 0, Math.min(2 * link.taken * SYMBOLS, localSlots.length), 0);
             for (int t = 0; t < link.taken; t++) {
                 ObjectFile m = link.object(t);
                 for (int i = 0; i < m.sections; i++) {
@@ -1922,7 +1937,7 @@ public final class LinkHouse {
 
         private long addressOf(Name n) {
             switch (n.home) {
-                case IN_SECTION: return byteOf(n.part, n.value);
+                case IN_SECTION: return n.part == null ? 0 : pool.addressIn(n.part, n.value);
                 case AT_VALUE: return n.value;
                 case IN_COMMON: return n.stays ? n.address : 0;
                 case BY_LINKER: return ownAddress((int) n.value);
@@ -1939,13 +1954,6 @@ public final class LinkHouse {
             }
         }
 
-        private long byteOf(Part p, long value) {
-            if (p == null || !p.stays) {
-                return 0;
-            }
-            return p.strings ? pool.byteAddress(p, value) : p.address + value;
-        }
-
         long symbolAddress(int t, int j) {
             Name n = link.nameOf(t, j);
             if (n != null) {
@@ -1957,8 +1965,8 @@ public final class LinkHouse {
                 return 0;
             }
             Part p = where < SECTIONS ? link.part(t, where) : null;
-            boolean kept = p != null && p.state != UNKEPT;
-            return kept ? byteOf(p, m.valueOf(j)) : m.valueOf(j);
+            boolean unkept = p == null || p.state == UNKEPT;
+            return unkept ? m.valueOf(j) : pool.addressIn(p, m.valueOf(j));
         }
     }
 
@@ -2070,36 +2078,32 @@ public final class LinkHouse {
             if (link.isShort(t, at, target)) {
                 return fillShort(t, at, target);
             }
-            long v = siteValue(t, at, target.address + place);
-            boolean fits = how == 10 ? v >>> 32 == 0 : v == (int) v;
+            int j = (int) m.num(at + 12, 4);
+            long a = m.num(at + 16, 8);
+            boolean slotted = how == 9 || how == 22 || how > 23;
+            long v = slotted ? slotAddress(t, j, how == 22) + a : sumFor(how, t, j, a);
+            if (how == 18 || how == 23) {
+                v -= layout.tp;
+            } else if (how == 2 || how == 4 || slotted) {
+                v -= target.address + place;
+            }
             file.set(spotOf(target) + place, width, v);
+            boolean fits = how == 10 ? v >>> 32 == 0 : v == (int) v;
             return fits || width == 8;
         }
 
-        private long siteValue(int t, int at, long p) {
-            ObjectFile m = link.object(t);
-            int how = (int) m.num(at + 8, 4);
-            int j = (int) m.num(at + 12, 4);
-            long a = m.num(at + 16, 8);
-            switch (how) {
-                case 1: case 10: case 11:
-                    return plainSum(t, j, a);
-                case 18: case 23:
-                    return layout.symbolAddress(t, j) + a - layout.tp;
-                case 2: case 4:
-                    return layout.symbolAddress(t, j) + a - p;
-                default:
-                    return layout.slotPlace + 8L * (layout.slotOf(t, j, how == 22) - 1) + a - p;
-            }
+        private long slotAddress(int t, int j, boolean threads) {
+            return layout.slotPlace + 8L * (layout.slotOf(t, j, threads) - 1);
         }
 
-        /** A section's own symbol stands for the section: A tells the string then, not a way from it. */
-        private long plainSum(int t, int j, long a) {
+        /** S + A. Of a section's own symbol A tells which string is meant, not a way from the first. */
+        private long sumFor(int how, int t, int j, long a) {
             ObjectFile m = link.object(t);
-            if (link.nameOf(t, j) == null && j > 0 && m.kindOf(j) == 3) {
+            boolean plain = how == 1 || how == 10 || how == 11;
+            if (plain && j > 0 && link.nameOf(t, j) == null && m.kindOf(j) == 3) {
                 Part p = link.partOf(t, j);
-                if (p != null && p.strings && p.stays) {
-                    return pool.byteAddress(p, m.valueOf(j) + a);
+                if (p != null && p.strings) {
+                    return pool.addressIn(p, m.valueOf(j) + a);
                 }
             }
             return layout.symbolAddress(t, j) + a;
@@ -2213,12 +2217,12 @@ public final class LinkHouse {
             return !to.over;
         }
 
-        boolean writePacked(Row to, ObjectFile[] modules) {
+        boolean writePacked(Row to, ObjectFile[] members) {
             int objects = 0;
             int names = 0;
             int letters = 0;
-            for (int i = 0; i < modules.length; i++) {
-                ObjectFile m = modules[i];
+            for (int i = 0; i < members.length; i++) {
+                ObjectFile m = members[i];
                 if (isObject(m)) {
                     objects++;
                     for (int j = 1; j < m.symbols; j++) {
@@ -2235,8 +2239,8 @@ public final class LinkHouse {
             }
             to.clear();
             to.putAll(ARCHIVE);
-            writeIndex(to, modules, names, letters);
-            writeObjects(to, modules);
+            writeIndex(to, members, names, letters);
+            writeObjects(to, members);
             return !to.over && to.size <= TAPE_LIMIT;
         }
 
@@ -2244,14 +2248,14 @@ public final class LinkHouse {
             return m.kind == ALONE || m.kind == MEMBER;
         }
 
-        private void writeIndex(Row to, ObjectFile[] modules, int names, int letters) {
+        private void writeIndex(Row to, ObjectFile[] members, int names, int letters) {
             int size = 4 + 4 * names + letters;
             to.put(1, 0x2f);
             writeAhead(to, size, to.size - 1);
             to.putHighestFirst(names);
             int at = to.size - 4 + size + (size & 1);
-            for (int i = 0; i < modules.length; i++) {
-                ObjectFile m = modules[i];
+            for (int i = 0; i < members.length; i++) {
+                ObjectFile m = members[i];
                 for (int j = 1; isObject(m) && j < m.symbols; j++) {
                     if (m.isDefining(j)) {
                         to.putHighestFirst(at);
@@ -2259,8 +2263,8 @@ public final class LinkHouse {
                 }
                 at += isObject(m) ? 60 + m.size + (m.size & 1) : 0;
             }
-            for (int i = 0; i < modules.length; i++) {
-                ObjectFile m = modules[i];
+            for (int i = 0; i < members.length; i++) {
+                ObjectFile m = members[i];
                 for (int j = 1; isObject(m) && j < m.symbols; j++) {
                     if (m.isDefining(j)) {
                         m.nameInto(j, link.probe);
@@ -2274,10 +2278,10 @@ public final class LinkHouse {
             }
         }
 
-        private void writeObjects(Row to, ObjectFile[] modules) {
+        private void writeObjects(Row to, ObjectFile[] members) {
             int k = 0;
-            for (int i = 0; i < modules.length; i++) {
-                ObjectFile m = modules[i];
+            for (int i = 0; i < members.length; i++) {
+                ObjectFile m = members[i];
                 if (isObject(m)) {
                     int at = to.size;
                     to.put(1, 0x6f);
