@@ -1,0 +1,264 @@
+import java.util.Arrays;
+
+/** Promises 21 boot, 22 peek, 23 flags and 12 near, by hand-made executables. */
+final class BootTest {
+    private static final int ROW = 64;
+
+    public static void main(String[] args) {
+        heads();
+        rows();
+        fileBytes();
+        fields();
+        order();
+        entry();
+        memory();
+        staysOnErrors();
+        names();
+        Bench.end();
+    }
+
+    /** Two rows behind a row of another type: code of 4 bytes, data of 2 in 10. */
+    private static byte[] good() {
+        byte[] b = new byte[64 + 3 * 56 + 6];
+        System.arraycopy(Bench.bytes(0x7f, 0x45, 0x4c, 0x46, 2, 1, 1), 0, b, 0, 7);
+        Bench.set(b, 16, 2, 2);
+        Bench.set(b, 18, 2, 62);
+        Bench.set(b, 20, 4, 1);
+        Bench.set(b, 24, 8, 0x1001);
+        Bench.set(b, 32, 8, ROW);
+        Bench.set(b, 54, 2, 56);
+        Bench.set(b, 56, 2, 3);
+        Arrays.fill(b, ROW, ROW + 56, (byte) 0xff);
+        row(b, 1, 5, 232, 0x1000, 4, 4, 0);
+        row(b, 2, 0xfffffff6L, 236, 0x2000, 2, 10, 4);
+        Bench.set(b, 232, 6, 0x060504030201L);
+        return b;
+    }
+
+    private static void row(byte[] b, int k, long flags, long place, long address, long file,
+            long memory, long align) {
+        int at = ROW + 56 * k;
+        Bench.set(b, at, 4, 1);
+        Bench.set(b, at + 4, 4, flags);
+        Bench.set(b, at + 8, 8, place);
+        Bench.set(b, at + 16, 8, address);
+        Bench.set(b, at + 32, 8, file);
+        Bench.set(b, at + 40, 8, memory);
+        Bench.set(b, at + 48, 8, align);
+    }
+
+    private static byte[] with(byte[] b, int at, int n, long v) {
+        byte[] changed = b.clone();
+        Bench.set(changed, at, n, v);
+        return changed;
+    }
+
+    private static byte[] withRow(int k, int field, long v) {
+        return with(good(), ROW + 56 * k + field, 8, v);
+    }
+
+    private static void due(String what, byte[] executable, int want) {
+        LinkHouse x = new LinkHouse();
+        Bench.feed(x, executable);
+        Bench.due(what, x.boot(true), want);
+        Bench.due("the tape is used up", x.look(1), 0);
+        Bench.due("look 11", x.look(11), want);
+        Bench.due("loaded rows", x.look(9) > 0, want == 0);
+    }
+
+    private static void heads() {
+        byte[] good = good();
+        due("good", good, 0);
+        due("63 bytes", Arrays.copyOf(good, 63), 1);
+        due("byte 0", with(good, 0, 1, 0), 1);
+        due("byte 6", with(good, 6, 1, 2), 1);
+        due("byte 7 is free", with(good, 7, 1, 2), 0);
+        due("at 16", with(good, 16, 2, 1), 1);
+        due("at 18", with(good, 18, 2, 63), 1);
+        due("at 20", with(good, 20, 4, 2), 1);
+        due("at 52 is free", with(good, 52, 2, 2), 0);
+        due("at 54", with(good, 54, 2, 57), 1);
+    }
+
+    private static void rows() {
+        byte[] good = good();
+        due("9 rows", with(Arrays.copyOf(good, 1000), 56, 2, 9), 2);
+        due("rows behind the end", with(good, 32, 8, good.length - 3 * 56 + 1), 2);
+        due("rows far away", with(good, 32, 8, -56), 2);
+        due("no rows", with(good, 56, 2, 0), 6);
+        byte[] eight = Arrays.copyOf(good, 64 + 8 * 56);
+        Bench.set(eight, 56, 2, 8);
+        Bench.set(eight, ROW + 3 * 56, 8, 0);
+        for (int k = 3; k < 8; k++) {
+            Bench.set(eight, ROW + 56 * k, 4, 2);
+        }
+        due("8 rows", eight, 0);
+    }
+
+    private static void fileBytes() {
+        due("FILE beyond", withRow(2, 32, 3), 3);
+        due("FILE above all", withRow(2, 32, -1), 3);
+        due("PLACE above all", withRow(1, 8, -1), 3);
+        byte[] none = withRow(2, 32, 0);
+        due("none, at the end", with(with(none, ROW + 120, 8, 238), ROW + 160, 8, 1), 0);
+        due("none, behind the end", with(with(none, ROW + 120, 8, 239), ROW + 160, 8, 1), 3);
+        due("a row that is not loaded", with(withRow(2, 32, 3), ROW + 112, 4, 2), 0);
+    }
+
+    private static void fields() {
+        due("MEMORY below FILE", withRow(2, 40, 1), 4);
+        due("MEMORY 65536", withRow(2, 40, 65536), 0);
+        due("MEMORY 65537", withRow(2, 40, 65537), 4);
+        due("MEMORY above all", withRow(2, 40, -1), 4);
+        due("ADDRESS 2^47", withRow(2, 16, 1L << 47), 0);
+        due("ADDRESS above", withRow(2, 16, (1L << 47) + 4), 4);
+        due("ADDRESS above all", withRow(2, 16, -4), 4);
+        due("ALIGN 3", withRow(2, 48, 3), 4);
+        due("ALIGN 1", withRow(2, 48, 1), 0);
+        due("ALIGN 8: 236 and 0x2000 differ", withRow(2, 48, 8), 4);
+        due("ALIGN 2^63 with another PLACE", withRow(2, 48, Long.MIN_VALUE), 4);
+        byte[] equal = withRow(2, 48, Long.MIN_VALUE);
+        Bench.set(equal, ROW + 56 + 16, 8, 0);
+        Bench.set(equal, 24, 8, 0);
+        due("ALIGN 2^63 with the same", with(equal, ROW + 112 + 16, 8, 236), 0);
+        due("3 before 4", with(withRow(2, 32, 30), ROW + 112 + 40, 8, 1), 3);
+        due("4 of the first before 3 of the second", with(withRow(1, 48, 3), ROW + 112 + 32, 8,
+                30), 4);
+    }
+
+    private static void order() {
+        due("at the end of the one before", withRow(2, 16, 0x1004), 0);
+        due("below it", withRow(2, 16, 0x1000), 5);
+        due("far below it", withRow(2, 16, 0), 5);
+        due("4 before 5", withRow(2, 16, 0x1001), 4);
+    }
+
+    private static void entry() {
+        byte[] good = good();
+        due("ENTRY the first byte", with(good, 24, 8, 0x1000), 0);
+        due("ENTRY the last byte", with(good, 24, 8, 0x1003), 0);
+        due("ENTRY behind it", with(good, 24, 8, 0x1004), 6);
+        due("ENTRY before it", with(good, 24, 8, 0xfff), 6);
+        due("ENTRY in a row without bit 0", with(good, 24, 8, 0x2000), 6);
+        due("ENTRY in 0s of one with bit 0", with(with(good, 24, 8, 0x2009), ROW + 116, 4, 1), 0);
+        due("5 before 6", with(withRow(2, 16, 0), 24, 8, 0), 5);
+    }
+
+    private static void memory() {
+        LinkHouse x = new LinkHouse();
+        Bench.feed(x, good());
+        x.boot(true);
+        Bench.due("rows", x.look(9), 2);
+        Bench.due("ENTRY", x.look(10), 0x1001);
+        int[] bytes = {1, 2, 3, 4};
+        for (int k = 0; k < 4; k++) {
+            Bench.due("peek", x.peek(0x1000 + k), bytes[k]);
+            Bench.due("flags", x.flags(0x1000 + k), 5);
+        }
+        Bench.due("file bytes", x.peek(0x2001), 6);
+        Bench.due("0s behind them", x.peek(0x2002), 0);
+        Bench.due("the last", x.peek(0x2009), 0);
+        Bench.due("flags", x.flags(0x2009), 0xfffffff6L);
+        for (long address : new long[] {0xfff, 0x1004, 0x1fff, 0x200a, -1, Long.MIN_VALUE, 0}) {
+            Bench.due("no byte", x.peek(address), -1);
+            Bench.due("no row", x.flags(address), -1);
+            Bench.due("no name", x.near(address), -1);
+        }
+        x.feed(8, 1);
+        Bench.due("boot of a bad OUT", x.boot(false), 1);
+        Bench.due("the tape stays", x.look(1), 8);
+    }
+
+    private static void staysOnErrors() {
+        LinkHouse x = Bench.house(Elf.program());
+        x.link(false);
+        Bench.due("boot", x.boot(false), 0);
+        Bench.due("OUT stays", x.look(2), 130);
+        Bench.feed(x, good());
+        x.feed(1, 0);
+        Bench.due("a good one", x.boot(true), 0);
+        Bench.feed(x, with(good(), 24, 8, 0));
+        Bench.due("a bad one", x.boot(true), 6);
+        Bench.due("look 11", x.look(11), 6);
+        Bench.due("memory stays", x.peek(0x1000), 1);
+        Bench.due("ENTRY stays", x.look(10), 0x1001);
+        Bench.due("rows stay", x.look(9), 2);
+        Bench.due("boot", x.boot(false), 0);
+        Bench.due("memory is another", x.peek(0x1000), -1);
+        Bench.due("rows", x.look(9), 1);
+    }
+
+    /** good() with sections: 0, names of type 3, symbols of type 2; the symbols' row is number 2. */
+    private static byte[] named() {
+        byte[] text = Bench.latin("\0a\0bc\0a2345678901234567890\0a23456789012345678901\0end");
+        byte[] symbols = Bench.join(new byte[24], symbol(1, 0x10, 1, 0x1000),
+                symbol(3, 0x21, 0xfff1, 0x1002), symbol(4, 0x20, 5, 0x1001),
+                symbol(0, 0x10, 1, 0x1000), symbol(6, 0x10, 1, 0x1003), symbol(27, 0x10, 1, 0x1000),
+                symbol(49, 0x10, 1, 0x1000), symbol(1, 0x00, 1, 0x1000),
+                symbol(1, 0x30, 1, 0x1000), symbol(1, 0x10, 0, 0x1000),
+                symbol(9999, 0x10, 1, 0x1000));
+        byte[] b = good();
+        int names = b.length;
+        int table = names + text.length;
+        int rows = table + symbols.length;
+        b = Bench.join(b, text, symbols, new byte[3 * 64]);
+        Bench.set(b, rows + 64 + 4, 4, 3);
+        Bench.set(b, rows + 64 + 24, 8, names);
+        Bench.set(b, rows + 64 + 32, 8, text.length);
+        Bench.set(b, rows + 128 + 4, 4, 2);
+        Bench.set(b, rows + 128 + 24, 8, table);
+        Bench.set(b, rows + 128 + 32, 8, symbols.length);
+        Bench.set(b, rows + 128 + 40, 4, 1);
+        Bench.set(b, 40, 8, rows);
+        Bench.set(b, 58, 2, 64);
+        Bench.set(b, 60, 2, 3);
+        return b;
+    }
+
+    private static byte[] symbol(int name, int info, int where, long value) {
+        byte[] row = new byte[24];
+        Bench.set(row, 0, 4, name);
+        Bench.set(row, 4, 1, info);
+        Bench.set(row, 6, 2, where);
+        Bench.set(row, 8, 8, value);
+        return row;
+    }
+
+    private static void dueNames(String what, byte[] executable, long want) {
+        LinkHouse x = new LinkHouse();
+        Bench.feed(x, executable);
+        Bench.due(what + ": boot", x.boot(true), 0);
+        Bench.due(what, x.look(18), want);
+    }
+
+    private static void names() {
+        byte[] good = named();
+        int table = Elf.rowOf(good, 2);
+        int text = Elf.rowOf(good, 1);
+        dueNames("names of memory", good, 4);
+        dueNames("at 58", with(good, 58, 2, 63), 0);
+        dueNames("no rows", with(good, 60, 2, 0), 0);
+        dueNames("25 rows", with(Arrays.copyOf(good, 4000), 60, 2, 25), 0);
+        dueNames("rows beyond", with(good, 40, 8, good.length - 191), 0);
+        dueNames("rows far away", with(good, 40, 8, -1), 0);
+        dueNames("SIZE 0", with(good, table + 32, 8, 0), 0);
+        dueNames("SIZE no multiple of 24", with(good, table + 32, 8, 47), 0);
+        dueNames("SIZE above all", with(good, table + 32, 8, -24), 0);
+        dueNames("one symbol", with(good, table + 32, 8, 24), 0);
+        dueNames("two symbols", with(good, table + 32, 8, 48), 1);
+        dueNames("LINK to another", with(good, table + 40, 4, 2), 0);
+        dueNames("LINK beyond", with(good, table + 40, 4, 3), 0);
+        dueNames("names beyond", with(good, text + 24, 8, -1), 0);
+        dueNames("fewer names", with(good, text + 32, 8, 3), 1);
+        dueNames("the first of type 2 counts", with(good, text + 4, 4, 2), 0);
+        LinkHouse x = new LinkHouse();
+        Bench.feed(x, good);
+        x.boot(true);
+        Bench.due("near", x.near(0x1000), 0);
+        Bench.due("OUT", Bench.outText(x), "a");
+        Bench.due("near", x.near(0x1001), 0);
+        Bench.due("OUT", Bench.outText(x), "c");
+        Bench.due("near", x.near(0x2005), 0x1002);
+        Bench.due("20 bytes", Bench.outText(x), "a2345678901234567890");
+    }
+}
