@@ -12,6 +12,7 @@ final class ArchiveTest {
         rounds();
         weakAndWished();
         laterFiles();
+        manyRefusals();
         Bench.end();
     }
 
@@ -206,6 +207,22 @@ final class ArchiveTest {
         Bench.due("taken", y.taken(1, 0), true);
     }
 
+    private static void manyRefusals() {
+        LinkHouse x = Bench.house(Elf.program());
+        for (int k = 0; k < 10; k++) {
+            Bench.due("a large bad one", Bench.add(x, new byte[8000]), 1);
+        }
+        Elf large = new Elf();
+        large.global("a", large.data(new int[4000]), 0);
+        for (int k = 0; k < 10; k++) {
+            Bench.due("a large good one", Bench.add(x, large), 0);
+            Bench.due("link", x.link(false), 0);
+            Bench.due("it goes", x.drop(), 1);
+        }
+        Bench.due("all are gone", x.link(false), 0);
+        Bench.due("OUT", x.look(2), 130);
+    }
+
     private static void laterFiles() {
         LinkHouse x = new LinkHouse();
         Bench.add(x, Elf.program());
@@ -223,5 +240,14 @@ final class ArchiveTest {
         Bench.due("its cause", x.cause(1, 0), 0);
         Bench.due("the first one", x.taken(0, 0), true);
         Bench.due("what the link found stays", x.section(1, 0), 1);
+        LinkHouse y = new LinkHouse();
+        Bench.add(y, Bench.archive(Bench.member("u/", defining(null, "u"))));
+        Bench.wish(y, "u");
+        y.link(false);
+        Bench.due("taken for a wish", y.taken(0, 0), true);
+        y.forget();
+        y.link(false);
+        Bench.due("not by the latest link", y.taken(0, 0), false);
+        Bench.due("its cause", y.cause(0, 0), 0);
     }
 }

@@ -86,6 +86,7 @@ final class BootTest {
         due("rows behind the end", with(good, 32, 8, good.length - 3 * 56 + 1), 2);
         due("rows far away", with(good, 32, 8, -56), 2);
         due("no rows", with(good, 56, 2, 0), 6);
+        due("no rows in 64 bytes", Arrays.copyOf(with(good, 56, 2, 0), 64), 6);
         byte[] eight = Arrays.copyOf(good, 64 + 8 * 56);
         Bench.set(eight, 56, 2, 8);
         Bench.set(eight, ROW + 3 * 56, 8, 0);
@@ -251,6 +252,14 @@ final class BootTest {
         dueNames("names beyond", with(good, text + 24, 8, -1), 0);
         dueNames("fewer names", with(good, text + 32, 8, 3), 1);
         dueNames("the first of type 2 counts", with(good, text + 4, 4, 2), 0);
+        byte[] beyond = good.clone();
+        System.arraycopy(good, table, beyond, text, 64);
+        System.arraycopy(good, text, beyond, table, 64);
+        Bench.set(beyond, text + 40, 4, 2);
+        dueNames("names behind symbols", beyond, 4);
+        dueNames("names behind the last row", with(beyond, 60, 2, 2), 0);
+        byte[] many = Arrays.copyOf(good, good.length + 21 * 64);
+        dueNames("24 rows", with(many, 60, 2, 24), 4);
         LinkHouse x = new LinkHouse();
         Bench.feed(x, good);
         x.boot(true);

@@ -13,9 +13,11 @@ final class LayoutTest {
         zerosAlone();
         threads();
         threadZerosAlone();
+        threadBytesAlone();
         noTemplate();
         commons();
         pool();
+        poolAlone();
         notStrings();
         tooMuchMemory();
         tooMuchFile();
@@ -205,6 +207,24 @@ final class LayoutTest {
         Bench.due("bytes", x.look(2), 0x100);
     }
 
+    private static void threadBytesAlone() {
+        Elf elf = Elf.program();
+        elf.section(1, Elf.THREADS, 64, Bench.bytes(1, 2, 3));
+        LinkHouse x = Bench.house(elf);
+        Bench.due("link", x.link(false), 0);
+        dueRow(x, 1, 1, 6, 0x100, 0x401100, 3, 3);
+        dueRow(x, 2, 7, 4, 0x100, 0x401100, 3, 3, 64);
+        Elf code = new Elf();
+        code.global("_start", code.text(new int[20]), 0);
+        code.section(1, Elf.THREADS, 64, Bench.bytes(1, 2, 3));
+        LinkHouse y = Bench.house(code);
+        Bench.due("link", y.link(false), 0);
+        dueRow(y, 1, 1, 6, 0x110, 0x401110, 0x33, 0x33);
+        dueRow(y, 2, 7, 4, 0x140, 0x401140, 3, 3, 64);
+        Bench.due("bytes", y.out(0x140), 0x030201);
+        Bench.due("TP", y.look(15), 0x401180);
+    }
+
     private static void noTemplate() {
         Elf elf = Elf.program();
         elf.data(1);
@@ -262,6 +282,17 @@ final class LayoutTest {
         Bench.due("an empty string is an end of the first", Bench.address(x, "end"), pool + 3);
         Bench.due("abc", Bench.address(x, "whole"), pool + 4);
         Bench.due("c of bc", Bench.address(x, "part"), pool + 6);
+    }
+
+    private static void poolAlone() {
+        Elf elf = new Elf();
+        elf.global("_start", elf.strings("ab\0b\0"), 3);
+        LinkHouse x = Bench.house(elf, wishes());
+        Bench.due("link", x.link(false), 0);
+        duePlaces(x, 0x400080);
+        dueRow(x, 0, 1, 4, 0x80, 0x400080, 3, 3);
+        Bench.due("ENTRY", x.out(24), 0x400081);
+        dueOwn(x, 0x400000, 0x401000, 0x401000, 0x401000);
     }
 
     private static void notStrings() {

@@ -8,6 +8,7 @@ final class ListMapTest {
         members();
         map();
         mapStays();
+        symbolZero();
         Bench.end();
     }
 
@@ -54,6 +55,24 @@ final class ListMapTest {
         LinkHouse y = Bench.house(new Elf());
         Bench.due("an empty list", y.list(0, 0), 0);
         Bench.due("an empty OUT", y.look(2), 0);
+    }
+
+    /** Whatever its row is, symbol 0 counts as a local one. */
+    private static void symbolZero() {
+        Elf elf = Elf.program();
+        byte[] object = elf.build();
+        int at = (int) Bench.num(object, Elf.rowOf(object, elf.symbolsSection()) + 24, 8);
+        System.arraycopy(object, at + 24, object, at, 24);
+        LinkHouse x = new LinkHouse();
+        Bench.due("add", Bench.add(x, object), 0);
+        Bench.due("list", x.list(0, 0), 26);
+        Bench.due("no double", x.link(false), 0);
+        Bench.due("names", x.look(8), 1);
+        Bench.due("merge", x.merge(), 0);
+        byte[] merged = Bench.out(x);
+        Bench.due("symbols", Bench.num(merged, Elf.rowOf(merged, 2) + 32, 8), 48);
+        x.pack();
+        Bench.due("names packed", Bench.out(x)[8 + 60 + 3], 1);
     }
 
     private static void sum() {

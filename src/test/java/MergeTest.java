@@ -90,11 +90,15 @@ final class MergeTest {
         Bench.due("the second site's symbol", Bench.num(o, 104 + 12, 4), 1);
         Bench.due("the second site's A", Bench.num(o, 104 + 16, 8), 7);
         Bench.due("the third site's symbol", Bench.num(o, 128 + 12, 4), 0);
+        dueSymbol(o, 5, 0, "", 0, 0, 0, 0);
         dueSymbol(o, 5, 1, "", 3, 1, 4, 0);
         dueSymbol(o, 5, 2, "_start", 0x10, 1, 1, 0);
         dueSymbol(o, 5, 3, "far", 0x12, 4, 6, 7);
         Bench.due("unkept, zeros", unkept < zeros, true);
+        Bench.due("0s behind the names", Bench.num(o, 268, 4), 0);
         Bench.due("it is an object", Bench.add(new LinkHouse(), o), 0);
+        Bench.due("merge again", x.merge(), 0);
+        Bench.due("the same", Bench.out(x), o);
     }
 
     private static void locals() {

@@ -65,11 +65,18 @@ final class NamedTest {
         dueSymbol(o, symbols + 120, 14, 0x11, 0xfff1, 5, 3);
         Bench.due("names", Bench.hex(o).substring(2 * names, 2 * (names + letters)),
                 Bench.hex(Bench.latin("\0g\0_start\0d\0c\0f\0")));
+        for (int at = names + letters; at < rows; at++) {
+            Bench.due("0s behind the names", o[at], 0);
+        }
         dueRow(o, 0, 0, 0, 0, 0, 0, 0, 0, 0, 0);
         dueRow(o, 1, 1, 6, 0x4000b0, 0xb0, 3, 0, 0, 16, 0);
         dueRow(o, 2, 1, 3, 0x4010c0, 0xc0, 1, 0, 0, 16, 0);
         dueRow(o, 3, 2, 0, 0, symbols, 6 * 24, 4, 1, 8, 24);
         dueRow(o, 4, 3, 0, 0, names, letters, 0, 0, 1, 0);
+        for (int k = 0; k < 2; k++) {
+            Bench.due("named again", x.named(), o.length);
+            Bench.due("the same", Bench.out(x), o);
+        }
     }
 
     private static void segments() {

@@ -51,6 +51,8 @@ final class PackTest {
         LinkHouse x = Bench.house(odd);
         int n = x.pack();
         Bench.due("behind the 25 bytes of the index", x.out(8 + 60 + 25) & 255, 10);
+        Bench.due("where the object's 60 bytes begin", x.out(8 + 60 + 7) & 255, 94);
+        Bench.due("there they are", x.out(94) & 0xffffff, 0x2f306f);
         byte[] packed = Bench.out(x);
         Bench.due("bytes", packed.length, n);
         x.drop();

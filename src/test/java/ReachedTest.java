@@ -47,8 +47,8 @@ final class ReachedTest {
         Elf elf = new Elf();
         int text = elf.text(new int[8]);
         int idle = elf.text(new int[8]);
-        elf.global("_start", text, 0);
         int a = elf.common("a", 4, 4);
+        elf.global("_start", text, 0);
         int b = elf.common("b", 4, 4);
         elf.site(elf.sites(text), 0, 2, b, 0).site(elf.sites(idle), 0, 2, a, 0);
         LinkHouse x = Bench.house(elf);

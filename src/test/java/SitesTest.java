@@ -17,6 +17,7 @@ final class SitesTest {
         limits();
         firstRunOver();
         symbolZero();
+        linkedAgain();
         Bench.end();
     }
 
@@ -275,7 +276,7 @@ final class SitesTest {
         good.global("_start", text, 0);
         far = good.global("far", Elf.FIXED, 1L << 40);
         good.site(textSites, 0, 10, far, 0);
-        good.site(dataSites, 4, 11, far, 0).site(dataSites, 0, 11, far, 0);
+        good.site(dataSites, 0, 11, 0, 0).site(dataSites, 4, 11, far, 0);
         Bench.due("add", Bench.add(x, good), 0);
         second.text(1);
         Bench.due("add", Bench.add(x, second), 0);
@@ -288,6 +289,31 @@ final class SitesTest {
         Bench.add(x, Elf.program());
         Bench.due("link", x.link(false), 0);
         Bench.due("nothing ran over", x.look(4), 0);
+    }
+
+    /** A link begins anew: slots, pool and TP of the one before are gone. */
+    private static void linkedAgain() {
+        Code c = new Code();
+        c.elf.strings("pool\0");
+        int local = c.elf.local(0, c.text, 5);
+        c.elf.site(c.sites, 0, 9, local, 0).site(c.sites, 4, 22, 1, 0);
+        LinkHouse x = c.linked();
+        byte[] first = Bench.out(x);
+        Bench.due("link again", x.link(false), 0);
+        Bench.due("slots", x.look(12), 2);
+        Bench.due("the pool", x.look(14), 5);
+        Bench.due("the same file", Bench.out(x), first);
+        Bench.wish(x, "w");
+        Bench.due("link", x.link(false), 2);
+        Bench.due("no slots", x.look(12), 0);
+        Bench.due("no pool", x.look(14), 0);
+        Bench.due("no TP", x.look(15), 0);
+        Bench.due("no segments", x.look(7), 0);
+        x.forget();
+        Bench.add(x, Elf.program());
+        Bench.due("a double", x.link(false), 1);
+        Bench.due("no slots", x.look(12), 0);
+        Bench.due("no pool", x.look(14), 0);
     }
 
     private static void symbolZero() {
