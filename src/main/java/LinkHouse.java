@@ -57,6 +57,7 @@ public final class LinkHouse {
     private static final int TEMPLATE = 3;
     private static final long PAGE = 4096;
     private static final long FIRST_ADDRESS = 0x400000L;
+    private static final long HIGHEST_BIT = 1L << 63;
 
     private final Row tape;
     private Row out;
@@ -452,7 +453,7 @@ public final class LinkHouse {
         return error;
     }
 
-    /** How many bytes the member has whose 60 bytes ahead begin there; -1 when it is not as told. */
+    /** The size that a member's 60 bytes ahead tell, which begin there; -1 when not as told. */
     private int memberSize(int at) {
         if (tape.size - at < 60 || tape.num(at + 58, 2) != 0x0a60) {
             return -1;
@@ -478,8 +479,9 @@ public final class LinkHouse {
         return (int) n;
     }
 
+    /** Numbers of 64 bits are unsigned. */
     private static boolean above(long a, long b) {
-        return a + Long.MIN_VALUE > b + Long.MIN_VALUE;
+        return (a ^ HIGHEST_BIT) > (b ^ HIGHEST_BIT);
     }
 
     private static long up(long value, long power) {
@@ -772,7 +774,7 @@ public final class LinkHouse {
         int fresh;
     }
 
-    /** A place for an object of a file: where its bytes stand in the store, and how to read them. */
+    /** A place for an object of a file: where its bytes stand in the store, and their reading. */
     private static final class ObjectFile {
         final Row store;
         final int file;
@@ -1191,7 +1193,8 @@ public final class LinkHouse {
         /** The name of a symbol of the t-th object taken; null for a local one. */
         Name nameOf(int t, int j) {
             int i = t * SYMBOLS + j;
-            return j >= 0 && j < SYMBOLS && i >= 0 && i < symbolNames.length ? symbolNames[i] : null;
+            boolean there = j >= 0 && j < SYMBOLS && i >= 0 && i < symbolNames.length;
+            return there ? symbolNames[i] : null;
         }
 
         /** The i-th of the names that are given or defined by objects. */
@@ -1404,7 +1407,7 @@ public final class LinkHouse {
             return true;
         }
 
-        /** The definition in the row at that place against the one that the name has; false: a double. */
+        /** The definition in a symbol's row against the one that the name has; false: a double. */
         private boolean settle(Name n, int t, ObjectFile m, int at) {
             int info = (int) m.num(at + 4, 1);
             int where = (int) m.num(at + 6, 2);
@@ -1443,7 +1446,7 @@ public final class LinkHouse {
             n.stays = true;
         }
 
-        /** A name that stands here without a definition is one that an object has, or a wished one. */
+        /** A name that stands here undefined is one that an object has, or a wished one. */
         private void defineOwn(String text, int which) {
             probe.setText(text);
             Name n = names.find(probe);
@@ -1534,7 +1537,7 @@ public final class LinkHouse {
             }
         }
 
-        /** Whether the site whose row begins there needs no slot; x and y are as the object has them. */
+        /** Asked of the object's own bytes: a site filled before may have changed the file's. */
         boolean isShort(int t, int at, Part target) {
             ObjectFile m = object(t);
             int how = (int) m.num(at + 8, 4);
@@ -1555,7 +1558,7 @@ public final class LinkHouse {
         }
     }
 
-    /** The strings of all strings' sections that stay, each once and none that is an end of another. */
+    /** The strings of all strings' sections that stay, but those that are ends of others. */
     private static final class Pool {
         final Row store;
         final int[] starts;
@@ -1629,7 +1632,7 @@ public final class LinkHouse {
             return true;
         }
 
-        /** The address of byte k of a section; of a strings' one by the pool, whose end is all beyond. */
+        /** The address of byte k of a section; of a strings' one in the pool, or the pool's end. */
         long addressIn(Part p, long k) {
             if (!p.stays) {
                 return 0;
@@ -1922,7 +1925,7 @@ public final class LinkHouse {
             return null;
         }
 
-        /** Where the group's last section ends. All lie at one address where the segment is left out. */
+        /** Where the group's last section ends; all lie at one address in a segment left out. */
         private long layGroup(int group, long from) {
             long cursor = from;
             for (int i = 0; i < count; i++) {
@@ -2096,7 +2099,7 @@ public final class LinkHouse {
             return layout.slotPlace + 8L * (layout.slotOf(t, j, threads) - 1);
         }
 
-        /** S + A. Of a section's own symbol A tells which string is meant, not a way from the first. */
+        /** S + A; of a section's own symbol A tells which string is meant, not a way from it. */
         private long sumFor(int how, int t, int j, long a) {
             ObjectFile m = link.object(t);
             boolean plain = how == 1 || how == 10 || how == 11;
@@ -2647,7 +2650,7 @@ public final class LinkHouse {
             }
             long at = x.num(32, 8);
             int n = (int) x.num(56, 2);
-            if (n > 8 || n > 0 && !x.holds(at, 56L * n)) {
+            if (n > 8 || !x.holds(at, 56L * n)) {
                 return 2;
             }
             long end = 0;

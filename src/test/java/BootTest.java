@@ -86,6 +86,8 @@ final class BootTest {
         due("rows behind the end", with(good, 32, 8, good.length - 3 * 56 + 1), 2);
         due("rows far away", with(good, 32, 8, -56), 2);
         due("no rows", with(good, 56, 2, 0), 6);
+        due("no rows, and their place is behind the end", with(with(good, 56, 2, 0), 32, 8,
+                good.length + 1), 2);
         due("no rows in 64 bytes", Arrays.copyOf(with(good, 56, 2, 0), 64), 6);
         byte[] eight = Arrays.copyOf(good, 64 + 8 * 56);
         Bench.set(eight, 56, 2, 8);
@@ -189,7 +191,7 @@ final class BootTest {
         Bench.due("rows", x.look(9), 1);
     }
 
-    /** good() with sections: 0, names of type 3, symbols of type 2; the symbols' row is number 2. */
+    /** good() with rows of sections: 0, names of type 3, symbols of type 2. */
     private static byte[] named() {
         byte[] text = Bench.latin("\0a\0bc\0a2345678901234567890\0a23456789012345678901\0end");
         byte[] symbols = Bench.join(new byte[24], symbol(1, 0x10, 1, 0x1000),
