@@ -202,7 +202,7 @@ public final class LinkHouse {
         if (j < 0) {
             return -1;
         }
-        memory.nameInto(j, probe);
+        probe.read(memory.bytes, memory.nameStart(j));
         out.clear();
         probe.writeTo(out);
         return address - memory.valueOf(j);
@@ -265,7 +265,7 @@ public final class LinkHouse {
         if (m.cause == 0) {
             return 0;
         }
-        m.nameInto(m.cause, probe);
+        probe.read(store, m.nameStart(m.cause));
         out.clear();
         probe.writeTo(out);
         return out.size;
@@ -537,6 +537,16 @@ public final class LinkHouse {
             return !above(from, size) && !above(n, size - from);
         }
 
+        /** How many bytes a name has that ends with a 0 ahead of the end; 0 if not 1 to 20. */
+        int nameLength(int from, int end) {
+            for (int k = 0; k <= NAME_BYTES && from + k < end; k++) {
+                if (at(from + k) == 0) {
+                    return k;
+                }
+            }
+            return 0;
+        }
+
         boolean begins(byte[] with) {
             for (int k = 0; k < with.length; k++) {
                 if (at(k) != with[k]) {
@@ -663,6 +673,13 @@ public final class LinkHouse {
                 high |= moved;
             }
             length++;
+        }
+
+        void read(Row row, int from) {
+            wipe();
+            for (int k = 0; k < NAME_BYTES && row.at(from + k) != 0; k++) {
+                append(row.at(from + k));
+            }
         }
 
         void setText(String text) {
@@ -894,16 +911,9 @@ public final class LinkHouse {
             return bindOf(j) != 0 && whereOf(j) != 0;
         }
 
-        void nameInto(int j, Name name) {
-            name.wipe();
-            int at = namePlace + (int) num(symbolPlace + 24 * j, 4);
-            for (int k = 0; k < NAME_BYTES; k++) {
-                int letter = (int) num(at + k, 1);
-                if (letter == 0) {
-                    return;
-                }
-                name.append(letter);
-            }
+        /** Where the name of a symbol begins in the store. */
+        int nameStart(int j) {
+            return base + namePlace + (int) num(symbolPlace + 24 * j, 4);
         }
 
         int readError(int[] marks) {
@@ -1032,12 +1042,8 @@ public final class LinkHouse {
 
         private boolean isNameGood(int j) {
             long at = num(symbolPlace + 24 * j, 4);
-            for (int k = 0; k <= NAME_BYTES && at + k < nameSize; k++) {
-                if (num(namePlace + (int) at + k, 1) == 0) {
-                    return k > 0;
-                }
-            }
-            return false;
+            int names = base + namePlace;
+            return at < nameSize && store.nameLength(names + (int) at, names + nameSize) > 0;
         }
 
         private boolean areSitesGood(int[] marks) {
@@ -1305,7 +1311,7 @@ public final class LinkHouse {
         private int firstWanted(ObjectFile m) {
             for (int j = 1; j < m.symbols; j++) {
                 if (m.isDefining(j)) {
-                    m.nameInto(j, probe);
+                    probe.read(m.store, m.nameStart(j));
                     Name n = names.find(probe);
                     if (n != null && isWanted(n)) {
                         return j;
@@ -1355,7 +1361,7 @@ public final class LinkHouse {
             for (int j = 0; j < SYMBOLS; j++) {
                 Name n = null;
                 if (m.bindOf(j) != 0) {
-                    m.nameInto(j, probe);
+                    probe.read(m.store, m.nameStart(j));
                     n = names.enter(probe);
                 }
                 symbolNames[t * SYMBOLS + j] = n;
@@ -2170,7 +2176,7 @@ public final class LinkHouse {
                 to.put(1, ' ');
                 to.put(1, letterOf(m, j));
                 to.put(1, ' ');
-                m.nameInto(j, link.probe);
+                link.probe.read(store, m.nameStart(j));
                 link.probe.writeTo(to);
                 to.put(1, 10);
             }
@@ -2230,7 +2236,7 @@ public final class LinkHouse {
                     objects++;
                     for (int j = 1; j < m.symbols; j++) {
                         if (m.isDefining(j)) {
-                            m.nameInto(j, link.probe);
+                            link.probe.read(store, m.nameStart(j));
                             names++;
                             letters += link.probe.length + 1;
                         }
@@ -2270,7 +2276,7 @@ public final class LinkHouse {
                 ObjectFile m = members[i];
                 for (int j = 1; isObject(m) && j < m.symbols; j++) {
                     if (m.isDefining(j)) {
-                        m.nameInto(j, link.probe);
+                        link.probe.read(store, m.nameStart(j));
                         link.probe.writeTo(to);
                         to.put(1, 0);
                     }
@@ -2322,8 +2328,7 @@ public final class LinkHouse {
             }
             mergeSymbols(to);
             mergeNames(to);
-            to.fillTo(up(to.size, 8), 0);
-            int at = to.size;
+            int at = nextPlace(to);
             to.copy(rows.bytes, 0, rows.size);
             for (int k = 0; k < ELF.length; k++) {
                 to.set(k, 1, ELF[k]);
@@ -2405,7 +2410,7 @@ public final class LinkHouse {
                 Part p = link.part(t, s);
                 if (p.stays) {
                     long type = m.typeOf(s);
-                    putRow(to, type, m.flagsOf(s), p.size, 0, 0);
+                    putRow(type, m.flagsOf(s), nextPlace(to), p.size, 0, 0);
                     endRow(m.alignOf(s), 0);
                     if (type != 8) {
                         to.copy(store.bytes, p.start, p.size);
@@ -2423,7 +2428,7 @@ public final class LinkHouse {
                 }
                 int sites = m.sitesOf(i);
                 int at = (int) m.placeOf(i);
-                putRow(to, 4, 0, 24 * sites, symbolsSection, target.fresh);
+                putRow(4, 0, nextPlace(to), 24 * sites, symbolsSection, target.fresh);
                 endRow(8, 24);
                 for (int n = 0; n < sites; n++, at += 24) {
                     to.put(8, m.num(at, 8));
@@ -2443,14 +2448,19 @@ public final class LinkHouse {
             return i >= 0 && i < locals.length ? locals[i] : 0;
         }
 
-        /** A row up to INFO; the section's bytes are to come next in OUT. */
-        private void putRow(Row to, long type, long flags, long size, int linked, int info) {
+        /** Bytes of a section come next: where they begin. */
+        private static int nextPlace(Row to) {
             to.fillTo(up(to.size, 8), 0);
+            return to.size;
+        }
+
+        /** A section's row up to INFO; endRow() has the rest. */
+        private void putRow(long type, long flags, long place, long size, int linked, int info) {
             rows.put(4, 0);
             rows.put(4, type);
             rows.put(8, flags);
             rows.put(8, 0);
-            rows.put(8, to.size);
+            rows.put(8, place);
             rows.put(8, size);
             rows.put(4, linked);
             rows.put(4, info);
@@ -2463,7 +2473,7 @@ public final class LinkHouse {
 
         private void mergeSymbols(Row to) {
             int size = 24 * (localCount + listedCount);
-            putRow(to, 2, 0, size, symbolsSection + 1, localCount);
+            putRow(2, 0, nextPlace(to), size, symbolsSection + 1, localCount);
             endRow(8, 24);
             to.fillTo(to.size + 24, 0);
             for (int t = 0; t < link.taken; t++) {
@@ -2525,7 +2535,7 @@ public final class LinkHouse {
             for (int i = 0; i < listedCount && i < listed.length; i++) {
                 size += listed[i] == null ? 0 : listed[i].length + 1;
             }
-            putRow(to, 3, 0, size, 0, 0);
+            putRow(3, 0, nextPlace(to), size, 0, 0);
             endRow(1, 0);
             to.put(1, 0);
             for (int i = 0; i < listedCount && i < listed.length; i++) {
@@ -2540,8 +2550,7 @@ public final class LinkHouse {
             int segments = layout.countSegments();
             to.clear();
             to.copy(file.bytes, 0, file.size);
-            to.fillTo(up(to.size, 8), 0);
-            int symbols = to.size;
+            int symbols = nextPlace(to);
             to.fillTo(to.size + 24, 0);
             int letters = 1;
             for (int i = 0; i < link.ordered; i++) {
@@ -2549,20 +2558,18 @@ public final class LinkHouse {
                 putSymbol(to, letters, n.info, rowOf(n), n.address, n.size);
                 letters += n.length + 1;
             }
-            to.fillTo(up(to.size, 8), 0);
-            int names = to.size;
+            int names = nextPlace(to);
             to.put(1, 0);
             for (int i = 0; i < link.ordered; i++) {
                 link.definedAt(i).writeTo(to);
                 to.put(1, 0);
             }
-            to.fillTo(up(to.size, 8), 0);
-            int first = to.size;
+            int first = nextPlace(to);
             rows.clear();
             writeSegmentRows();
-            addTableRow(2, symbols, 24L * (link.ordered + 1), segments + 2, 1);
+            putRow(2, 0, symbols, 24L * (link.ordered + 1), segments + 2, 1);
             endRow(8, 24);
-            addTableRow(3, names, letters, 0, 0);
+            putRow(3, 0, names, letters, 0, 0);
             endRow(1, 0);
             to.copy(rows.bytes, 0, rows.size);
             to.set(40, 8, first);
@@ -2606,16 +2613,6 @@ public final class LinkHouse {
             }
         }
 
-        private void addTableRow(int type, long place, long size, int linked, int info) {
-            rows.put(4, 0);
-            rows.put(4, type);
-            rows.put(8, 0);
-            rows.put(8, 0);
-            rows.put(8, place);
-            rows.put(8, size);
-            rows.put(4, linked);
-            rows.put(4, info);
-        }
     }
 
     /** The executable that was booted last; its memory is read from a copy of its bytes. */
@@ -2748,24 +2745,16 @@ public final class LinkHouse {
                 return false;
             }
             long at = bytes.num(row, 4);
-            for (int k = 0; k <= NAME_BYTES && at + k < nameSize; k++) {
-                if (bytes.at(namePlace + (int) at + k) == 0) {
-                    return k > 0;
-                }
-            }
-            return false;
+            return at < nameSize
+                    && bytes.nameLength(namePlace + (int) at, namePlace + nameSize) > 0;
         }
 
         long valueOf(int j) {
             return bytes.num(symbolPlace + 24 * j + 8, 8);
         }
 
-        void nameInto(int j, Name name) {
-            name.wipe();
-            int at = namePlace + (int) bytes.num(symbolPlace + 24 * j, 4);
-            for (int k = 0; k < NAME_BYTES && bytes.at(at + k) != 0; k++) {
-                name.append(bytes.at(at + k));
-            }
+        int nameStart(int j) {
+            return namePlace + (int) bytes.num(symbolPlace + 24 * j, 4);
         }
 
         int nearest(long address) {
