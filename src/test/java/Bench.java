@@ -133,6 +133,13 @@ final class Bench {
         }
     }
 
+    /** A copy with n bytes changed. */
+    static byte[] with(byte[] bytes, int at, int n, long v) {
+        byte[] changed = bytes.clone();
+        set(changed, at, n, v);
+        return changed;
+    }
+
     static byte[] latin(String text) {
         byte[] bytes = new byte[text.length()];
         for (int k = 0; k < bytes.length; k++) {

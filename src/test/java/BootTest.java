@@ -2,7 +2,7 @@ import java.util.Arrays;
 
 /** Promises 21 boot, 22 peek, 23 flags and 12 near, by hand-made executables. */
 final class BootTest {
-    private static final int ROW = 64;
+    private static final int ROW = Exe.ROW;
 
     public static void main(String[] args) {
         heads();
@@ -17,44 +17,8 @@ final class BootTest {
         Bench.end();
     }
 
-    /** Two rows behind a row of another type: code of 4 bytes, data of 2 in 10. */
-    private static byte[] good() {
-        byte[] b = new byte[64 + 3 * 56 + 6];
-        System.arraycopy(Bench.bytes(0x7f, 0x45, 0x4c, 0x46, 2, 1, 1), 0, b, 0, 7);
-        Bench.set(b, 16, 2, 2);
-        Bench.set(b, 18, 2, 62);
-        Bench.set(b, 20, 4, 1);
-        Bench.set(b, 24, 8, 0x1001);
-        Bench.set(b, 32, 8, ROW);
-        Bench.set(b, 54, 2, 56);
-        Bench.set(b, 56, 2, 3);
-        Arrays.fill(b, ROW, ROW + 56, (byte) 0xff);
-        row(b, 1, 5, 232, 0x1000, 4, 4, 0);
-        row(b, 2, 0xfffffff6L, 236, 0x2000, 2, 10, 4);
-        Bench.set(b, 232, 6, 0x060504030201L);
-        return b;
-    }
-
-    private static void row(byte[] b, int k, long flags, long place, long address, long file,
-            long memory, long align) {
-        int at = ROW + 56 * k;
-        Bench.set(b, at, 4, 1);
-        Bench.set(b, at + 4, 4, flags);
-        Bench.set(b, at + 8, 8, place);
-        Bench.set(b, at + 16, 8, address);
-        Bench.set(b, at + 32, 8, file);
-        Bench.set(b, at + 40, 8, memory);
-        Bench.set(b, at + 48, 8, align);
-    }
-
-    private static byte[] with(byte[] b, int at, int n, long v) {
-        byte[] changed = b.clone();
-        Bench.set(changed, at, n, v);
-        return changed;
-    }
-
     private static byte[] withRow(int k, int field, long v) {
-        return with(good(), ROW + 56 * k + field, 8, v);
+        return Bench.with(Exe.good(), ROW + 56 * k + field, 8, v);
     }
 
     private static void due(String what, byte[] executable, int want) {
@@ -67,28 +31,29 @@ final class BootTest {
     }
 
     private static void heads() {
-        byte[] good = good();
+        byte[] good = Exe.good();
         due("good", good, 0);
         due("63 bytes", Arrays.copyOf(good, 63), 1);
-        due("byte 0", with(good, 0, 1, 0), 1);
-        due("byte 6", with(good, 6, 1, 2), 1);
-        due("byte 7 is free", with(good, 7, 1, 2), 0);
-        due("at 16", with(good, 16, 2, 1), 1);
-        due("at 18", with(good, 18, 2, 63), 1);
-        due("at 20", with(good, 20, 4, 2), 1);
-        due("at 52 is free", with(good, 52, 2, 2), 0);
-        due("at 54", with(good, 54, 2, 57), 1);
+        due("byte 0", Bench.with(good, 0, 1, 0), 1);
+        due("byte 6", Bench.with(good, 6, 1, 2), 1);
+        due("byte 7 is free", Bench.with(good, 7, 1, 2), 0);
+        due("at 16", Bench.with(good, 16, 2, 1), 1);
+        due("at 18", Bench.with(good, 18, 2, 63), 1);
+        due("at 20", Bench.with(good, 20, 4, 2), 1);
+        due("at 52 is free", Bench.with(good, 52, 2, 2), 0);
+        due("at 54", Bench.with(good, 54, 2, 57), 1);
     }
 
     private static void rows() {
-        byte[] good = good();
-        due("9 rows", with(Arrays.copyOf(good, 1000), 56, 2, 9), 2);
-        due("rows behind the end", with(good, 32, 8, good.length - 3 * 56 + 1), 2);
-        due("rows far away", with(good, 32, 8, -56), 2);
-        due("no rows", with(good, 56, 2, 0), 6);
-        due("no rows, and their place is behind the end", with(with(good, 56, 2, 0), 32, 8,
+        byte[] good = Exe.good();
+        due("9 rows", Bench.with(Arrays.copyOf(good, 1000), 56, 2, 9), 2);
+        due("rows behind the end", Bench.with(good, 32, 8, good.length - 3 * 56 + 1), 2);
+        due("rows far away", Bench.with(good, 32, 8, -56), 2);
+        due("no rows", Bench.with(good, 56, 2, 0), 6);
+        due("no rows, and their place is behind the end",
+                Bench.with(Bench.with(good, 56, 2, 0), 32, 8,
                 good.length + 1), 2);
-        due("no rows in 64 bytes", Arrays.copyOf(with(good, 56, 2, 0), 64), 6);
+        due("no rows in 64 bytes", Arrays.copyOf(Bench.with(good, 56, 2, 0), 64), 6);
         byte[] eight = Arrays.copyOf(good, 64 + 8 * 56);
         Bench.set(eight, 56, 2, 8);
         Bench.set(eight, ROW + 3 * 56, 8, 0);
@@ -103,9 +68,11 @@ final class BootTest {
         due("FILE above all", withRow(2, 32, -1), 3);
         due("PLACE above all", withRow(1, 8, -1), 3);
         byte[] none = withRow(2, 32, 0);
-        due("none, at the end", with(with(none, ROW + 120, 8, 238), ROW + 160, 8, 1), 0);
-        due("none, behind the end", with(with(none, ROW + 120, 8, 239), ROW + 160, 8, 1), 3);
-        due("a row that is not loaded", with(withRow(2, 32, 3), ROW + 112, 4, 2), 0);
+        due("none, at the end",
+                Bench.with(Bench.with(none, ROW + 120, 8, 238), ROW + 160, 8, 1), 0);
+        due("none, behind the end",
+                Bench.with(Bench.with(none, ROW + 120, 8, 239), ROW + 160, 8, 1), 3);
+        due("a row that is not loaded", Bench.with(withRow(2, 32, 3), ROW + 112, 4, 2), 0);
     }
 
     private static void fields() {
@@ -123,9 +90,10 @@ final class BootTest {
         byte[] equal = withRow(2, 48, Long.MIN_VALUE);
         Bench.set(equal, ROW + 56 + 16, 8, 0);
         Bench.set(equal, 24, 8, 0);
-        due("ALIGN 2^63 with the same", with(equal, ROW + 112 + 16, 8, 236), 0);
-        due("3 before 4", with(withRow(2, 32, 30), ROW + 112 + 40, 8, 1), 3);
-        due("4 of the first before 3 of the second", with(withRow(1, 48, 3), ROW + 112 + 32, 8,
+        due("ALIGN 2^63 with the same", Bench.with(equal, ROW + 112 + 16, 8, 236), 0);
+        due("3 before 4", Bench.with(withRow(2, 32, 30), ROW + 112 + 40, 8, 1), 3);
+        due("4 of the first before 3 of the second",
+                Bench.with(withRow(1, 48, 3), ROW + 112 + 32, 8,
                 30), 4);
     }
 
@@ -137,19 +105,20 @@ final class BootTest {
     }
 
     private static void entry() {
-        byte[] good = good();
-        due("ENTRY the first byte", with(good, 24, 8, 0x1000), 0);
-        due("ENTRY the last byte", with(good, 24, 8, 0x1003), 0);
-        due("ENTRY behind it", with(good, 24, 8, 0x1004), 6);
-        due("ENTRY before it", with(good, 24, 8, 0xfff), 6);
-        due("ENTRY in a row without bit 0", with(good, 24, 8, 0x2000), 6);
-        due("ENTRY in 0s of one with bit 0", with(with(good, 24, 8, 0x2009), ROW + 116, 4, 1), 0);
-        due("5 before 6", with(withRow(2, 16, 0), 24, 8, 0), 5);
+        byte[] good = Exe.good();
+        due("ENTRY the first byte", Bench.with(good, 24, 8, 0x1000), 0);
+        due("ENTRY the last byte", Bench.with(good, 24, 8, 0x1003), 0);
+        due("ENTRY behind it", Bench.with(good, 24, 8, 0x1004), 6);
+        due("ENTRY before it", Bench.with(good, 24, 8, 0xfff), 6);
+        due("ENTRY in a row without bit 0", Bench.with(good, 24, 8, 0x2000), 6);
+        due("ENTRY in 0s of one with bit 0",
+                Bench.with(Bench.with(good, 24, 8, 0x2009), ROW + 116, 4, 1), 0);
+        due("5 before 6", Bench.with(withRow(2, 16, 0), 24, 8, 0), 5);
     }
 
     private static void memory() {
         LinkHouse x = new LinkHouse();
-        Bench.feed(x, good());
+        Bench.feed(x, Exe.good());
         x.boot(true);
         Bench.due("rows", x.look(9), 2);
         Bench.due("ENTRY", x.look(10), 0x1001);
@@ -177,10 +146,10 @@ final class BootTest {
         x.link(false);
         Bench.due("boot", x.boot(false), 0);
         Bench.due("OUT stays", x.look(2), 130);
-        Bench.feed(x, good());
+        Bench.feed(x, Exe.good());
         x.feed(1, 0);
         Bench.due("a good one", x.boot(true), 0);
-        Bench.feed(x, with(good(), 24, 8, 0));
+        Bench.feed(x, Bench.with(Exe.good(), 24, 8, 0));
         Bench.due("a bad one", x.boot(true), 6);
         Bench.due("look 11", x.look(11), 6);
         Bench.due("memory stays", x.peek(0x1000), 1);
@@ -191,42 +160,6 @@ final class BootTest {
         Bench.due("rows", x.look(9), 1);
     }
 
-    /** good() with rows of sections: 0, names of type 3, symbols of type 2. */
-    private static byte[] named() {
-        byte[] text = Bench.latin("\0a\0bc\0a2345678901234567890\0a23456789012345678901\0end");
-        byte[] symbols = Bench.join(new byte[24], symbol(1, 0x10, 1, 0x1000),
-                symbol(3, 0x21, 0xfff1, 0x1002), symbol(4, 0x20, 5, 0x1001),
-                symbol(0, 0x10, 1, 0x1000), symbol(6, 0x10, 1, 0x1003), symbol(27, 0x10, 1, 0x1000),
-                symbol(49, 0x10, 1, 0x1000), symbol(1, 0x00, 1, 0x1000),
-                symbol(1, 0x30, 1, 0x1000), symbol(1, 0x10, 0, 0x1000),
-                symbol(9999, 0x10, 1, 0x1000));
-        byte[] b = good();
-        int names = b.length;
-        int table = names + text.length;
-        int rows = table + symbols.length;
-        b = Bench.join(b, text, symbols, new byte[3 * 64]);
-        Bench.set(b, rows + 64 + 4, 4, 3);
-        Bench.set(b, rows + 64 + 24, 8, names);
-        Bench.set(b, rows + 64 + 32, 8, text.length);
-        Bench.set(b, rows + 128 + 4, 4, 2);
-        Bench.set(b, rows + 128 + 24, 8, table);
-        Bench.set(b, rows + 128 + 32, 8, symbols.length);
-        Bench.set(b, rows + 128 + 40, 4, 1);
-        Bench.set(b, 40, 8, rows);
-        Bench.set(b, 58, 2, 64);
-        Bench.set(b, 60, 2, 3);
-        return b;
-    }
-
-    private static byte[] symbol(int name, int info, int where, long value) {
-        byte[] row = new byte[24];
-        Bench.set(row, 0, 4, name);
-        Bench.set(row, 4, 1, info);
-        Bench.set(row, 6, 2, where);
-        Bench.set(row, 8, 8, value);
-        return row;
-    }
-
     private static void dueNames(String what, byte[] executable, long want) {
         LinkHouse x = new LinkHouse();
         Bench.feed(x, executable);
@@ -235,33 +168,33 @@ final class BootTest {
     }
 
     private static void names() {
-        byte[] good = named();
+        byte[] good = Exe.named();
         int table = Elf.rowOf(good, 2);
         int text = Elf.rowOf(good, 1);
         dueNames("names of memory", good, 4);
-        dueNames("at 58", with(good, 58, 2, 63), 0);
-        dueNames("no rows", with(good, 60, 2, 0), 0);
-        dueNames("25 rows", with(Arrays.copyOf(good, 4000), 60, 2, 25), 0);
-        dueNames("rows beyond", with(good, 40, 8, good.length - 191), 0);
-        dueNames("rows far away", with(good, 40, 8, -1), 0);
-        dueNames("SIZE 0", with(good, table + 32, 8, 0), 0);
-        dueNames("SIZE no multiple of 24", with(good, table + 32, 8, 47), 0);
-        dueNames("SIZE above all", with(good, table + 32, 8, -24), 0);
-        dueNames("one symbol", with(good, table + 32, 8, 24), 0);
-        dueNames("two symbols", with(good, table + 32, 8, 48), 1);
-        dueNames("LINK to another", with(good, table + 40, 4, 2), 0);
-        dueNames("LINK beyond", with(good, table + 40, 4, 3), 0);
-        dueNames("names beyond", with(good, text + 24, 8, -1), 0);
-        dueNames("fewer names", with(good, text + 32, 8, 3), 1);
-        dueNames("the first of type 2 counts", with(good, text + 4, 4, 2), 0);
+        dueNames("at 58", Bench.with(good, 58, 2, 63), 0);
+        dueNames("no rows", Bench.with(good, 60, 2, 0), 0);
+        dueNames("25 rows", Bench.with(Arrays.copyOf(good, 4000), 60, 2, 25), 0);
+        dueNames("rows beyond", Bench.with(good, 40, 8, good.length - 191), 0);
+        dueNames("rows far away", Bench.with(good, 40, 8, -1), 0);
+        dueNames("SIZE 0", Bench.with(good, table + 32, 8, 0), 0);
+        dueNames("SIZE no multiple of 24", Bench.with(good, table + 32, 8, 47), 0);
+        dueNames("SIZE above all", Bench.with(good, table + 32, 8, -24), 0);
+        dueNames("one symbol", Bench.with(good, table + 32, 8, 24), 0);
+        dueNames("two symbols", Bench.with(good, table + 32, 8, 48), 1);
+        dueNames("LINK to another", Bench.with(good, table + 40, 4, 2), 0);
+        dueNames("LINK beyond", Bench.with(good, table + 40, 4, 3), 0);
+        dueNames("names beyond", Bench.with(good, text + 24, 8, -1), 0);
+        dueNames("fewer names", Bench.with(good, text + 32, 8, 3), 1);
+        dueNames("the first of type 2 counts", Bench.with(good, text + 4, 4, 2), 0);
         byte[] beyond = good.clone();
         System.arraycopy(good, table, beyond, text, 64);
         System.arraycopy(good, text, beyond, table, 64);
         Bench.set(beyond, text + 40, 4, 2);
         dueNames("names behind symbols", beyond, 4);
-        dueNames("names behind the last row", with(beyond, 60, 2, 2), 0);
+        dueNames("names behind the last row", Bench.with(beyond, 60, 2, 2), 0);
         byte[] many = Arrays.copyOf(good, good.length + 21 * 64);
-        dueNames("24 rows", with(many, 60, 2, 24), 4);
+        dueNames("24 rows", Bench.with(many, 60, 2, 24), 4);
         LinkHouse x = new LinkHouse();
         Bench.feed(x, good);
         x.boot(true);

@@ -13,6 +13,14 @@ final class Elf {
     static final int WEAK = 2;
     static final int FIXED = 0xfff1;
     static final int COMMON = 0xfff2;
+    /** Offsets in a section's row; TYPE, LINK and INFO have 4 bytes, the others 8. */
+    static final int TYPE = 4;
+    static final int FLAGS = 8;
+    static final int PLACE = 24;
+    static final int SIZE = 32;
+    static final int LINK = 40;
+    static final int INFO = 44;
+    static final int ALIGN = 48;
 
     private static final class Section {
         long type;
@@ -104,14 +112,23 @@ final class Elf {
 
     /** A symbol; its number. Its name is written only when it is not local. */
     int symbol(String name, int bind, int kind, int where, long value, long size) {
+        int at = bind == LOCAL ? 0 : nameText(name);
+        return symbolAt(at, bind, kind, where, value, size);
+    }
+
+    /** Writes a text and a 0 behind the names; where it begins. */
+    int nameText(String text) {
+        names.append(text).append('\0');
+        return names.length() - text.length() - 1;
+    }
+
+    /** A symbol whose name begins at a place among the names; its number. */
+    int symbolAt(int name, int bind, int kind, int where, long value, long size) {
         if (symbols.isEmpty()) {
             symbols.add(new byte[24]);
         }
         byte[] row = new byte[24];
-        if (bind != LOCAL) {
-            Bench.set(row, 0, 4, names.length());
-            names.append(name).append('\0');
-        }
+        Bench.set(row, 0, 4, name);
         row[4] = (byte) (16 * bind + kind);
         Bench.set(row, 6, 2, where);
         Bench.set(row, 8, 8, value);
@@ -210,6 +227,17 @@ final class Elf {
     /** Where the row of section i begins in what build() made. */
     static int rowOf(byte[] built, int i) {
         return (int) Bench.num(built, 40, 8) + 64 * i;
+    }
+
+    /** A copy of what build() made with another number in the row of section i. */
+    static byte[] withRow(byte[] built, int i, int field, long v) {
+        boolean wide = field != TYPE && field != LINK && field != INFO;
+        return Bench.with(built, rowOf(built, i) + field, wide ? 8 : 4, v);
+    }
+
+    /** Where the bytes of section i begin in what build() made. */
+    static int placeOf(byte[] built, int i) {
+        return (int) Bench.num(built, rowOf(built, i) + PLACE, 8);
     }
 
     /** A small program: _start in 2 bytes of text. */

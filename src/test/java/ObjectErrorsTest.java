@@ -2,15 +2,6 @@ import java.util.Arrays;
 
 /** Promise 3: an object's errors, the first that holds, with their edges. */
 final class ObjectErrorsTest {
-    /** Offsets in a section's row, with their widths. */
-    private static final int TYPE = 4;
-    private static final int FLAGS = 8;
-    private static final int PLACE = 24;
-    private static final int SIZE = 32;
-    private static final int LINK = 40;
-    private static final int INFO = 44;
-    private static final int ALIGN = 48;
-
     public static void main(String[] args) {
         heads();
         rows();
@@ -31,49 +22,33 @@ final class ObjectErrorsTest {
         Bench.due(what, Bench.add(new LinkHouse(), object), want);
     }
 
-    private static byte[] with(byte[] object, int at, int n, long v) {
-        byte[] changed = object.clone();
-        Bench.set(changed, at, n, v);
-        return changed;
-    }
-
-    private static byte[] withRow(byte[] object, int i, int field, long v) {
-        boolean wide = field != TYPE && field != LINK && field != INFO;
-        return with(object, Elf.rowOf(object, i) + field, wide ? 8 : 4, v);
-    }
-
-    /** Where a section's bytes begin. */
-    private static int placeOf(byte[] object, int i) {
-        return (int) Bench.num(object, Elf.rowOf(object, i) + PLACE, 8);
-    }
-
     private static void heads() {
         byte[] good = Elf.program().build();
         due("a good one", good, 0);
         due("63 bytes", Arrays.copyOf(good, 63), 1);
         for (int k = 0; k < 7; k++) {
-            due("byte " + k, with(good, k, 1, 0xff), 1);
+            due("byte " + k, Bench.with(good, k, 1, 0xff), 1);
         }
-        due("bytes 7 to 15 are free", with(good, 8, 8, -1), 0);
-        due("at 16", with(good, 16, 2, 2), 1);
-        due("at 18", with(good, 18, 2, 3), 1);
-        due("at 20", with(good, 20, 4, 0x10001), 1);
-        due("at 24 is free", with(good, 24, 8, -1), 0);
-        due("at 52", with(good, 52, 2, 63), 1);
-        due("at 58", with(good, 58, 2, 65), 1);
-        due("at 62 is free", with(good, 62, 2, 99), 0);
-        due("1 comes before 2", with(with(good, 60, 2, 0), 58, 2, 0), 1);
+        due("bytes 7 to 15 are free", Bench.with(good, 8, 8, -1), 0);
+        due("at 16", Bench.with(good, 16, 2, 2), 1);
+        due("at 18", Bench.with(good, 18, 2, 3), 1);
+        due("at 20", Bench.with(good, 20, 4, 0x10001), 1);
+        due("at 24 is free", Bench.with(good, 24, 8, -1), 0);
+        due("at 52", Bench.with(good, 52, 2, 63), 1);
+        due("at 58", Bench.with(good, 58, 2, 65), 1);
+        due("at 62 is free", Bench.with(good, 62, 2, 99), 0);
+        due("1 comes before 2", Bench.with(Bench.with(good, 60, 2, 0), 58, 2, 0), 1);
     }
 
     private static void rows() {
         byte[] good = Elf.program().build();
         int rows = (int) Bench.num(good, 40, 8);
-        due("no section", with(good, 60, 2, 0), 2);
-        due("25 sections", with(Arrays.copyOf(good, 4000), 60, 2, 25), 2);
-        due("rows behind the end", with(good, 40, 8, rows + 1), 2);
-        due("rows far away", with(good, 40, 8, -64), 2);
-        due("rows farther than all", with(good, 40, 8, Long.MIN_VALUE), 2);
-        due("section 0 has a type", withRow(good, 0, TYPE, 1), 2);
+        due("no section", Bench.with(good, 60, 2, 0), 2);
+        due("25 sections", Bench.with(Arrays.copyOf(good, 4000), 60, 2, 25), 2);
+        due("rows behind the end", Bench.with(good, 40, 8, rows + 1), 2);
+        due("rows far away", Bench.with(good, 40, 8, -64), 2);
+        due("rows farther than all", Bench.with(good, 40, 8, Long.MIN_VALUE), 2);
+        due("section 0 has a type", Elf.withRow(good, 0, Elf.TYPE, 1), 2);
         byte[] alone = Arrays.copyOf(good, 128);
         Bench.set(alone, 40, 8, 64);
         Bench.set(alone, 60, 2, 1);
@@ -88,27 +63,28 @@ final class ObjectErrorsTest {
 
     private static void sections() {
         byte[] good = Elf.program().build();
-        due("bytes reach behind the end", withRow(good, 1, SIZE, good.length), 3);
-        due("SIZE above all", withRow(good, 1, SIZE, -1), 3);
-        due("PLACE above all", withRow(good, 1, PLACE, -1), 3);
-        byte[] empty = withRow(good, 1, SIZE, 0);
-        due("none at the end", withRow(empty, 1, PLACE, good.length), 0);
-        due("none behind the end", withRow(empty, 1, PLACE, good.length + 1), 3);
-        due("type 0 is not asked", withRow(withRow(good, 0, SIZE, -1), 0, PLACE, -1), 0);
+        due("bytes reach behind the end", Elf.withRow(good, 1, Elf.SIZE, good.length), 3);
+        due("SIZE above all", Elf.withRow(good, 1, Elf.SIZE, -1), 3);
+        due("PLACE above all", Elf.withRow(good, 1, Elf.PLACE, -1), 3);
+        byte[] empty = Elf.withRow(good, 1, Elf.SIZE, 0);
+        due("none at the end", Elf.withRow(empty, 1, Elf.PLACE, good.length), 0);
+        due("none behind the end", Elf.withRow(empty, 1, Elf.PLACE, good.length + 1), 3);
+        due("type 0 is not asked",
+                Elf.withRow(Elf.withRow(good, 0, Elf.SIZE, -1), 0, Elf.PLACE, -1), 0);
         Elf elf = Elf.program();
         int zeros = elf.zeros(Elf.DATA, 1, 16384);
         byte[] sized = elf.build();
         due("16384 zeros", sized, 0);
-        due("of type 8 PLACE is not asked", withRow(sized, zeros, PLACE, -1), 0);
-        due("16385 zeros", withRow(sized, zeros, SIZE, 16385), 4);
-        due("SIZE with the highest bit", withRow(sized, zeros, SIZE, Long.MIN_VALUE), 4);
-        byte[] unkept = withRow(withRow(sized, zeros, SIZE, -1), zeros, ALIGN, 3);
-        due("not kept: not asked", withRow(unkept, zeros, FLAGS, 1), 0);
+        due("of type 8 PLACE is not asked", Elf.withRow(sized, zeros, Elf.PLACE, -1), 0);
+        due("16385 zeros", Elf.withRow(sized, zeros, Elf.SIZE, 16385), 4);
+        due("SIZE with the highest bit", Elf.withRow(sized, zeros, Elf.SIZE, Long.MIN_VALUE), 4);
+        byte[] unkept = Elf.withRow(Elf.withRow(sized, zeros, Elf.SIZE, -1), zeros, Elf.ALIGN, 3);
+        due("not kept: not asked", Elf.withRow(unkept, zeros, Elf.FLAGS, 1), 0);
         for (long align : new long[] {0, 1, 2, 2048, 4096}) {
-            due("ALIGN " + align, withRow(good, 1, ALIGN, align), 0);
+            due("ALIGN " + align, Elf.withRow(good, 1, Elf.ALIGN, align), 0);
         }
         for (long align : new long[] {3, 8192, -1, Long.MIN_VALUE, 4097, 1L << 32}) {
-            due("ALIGN " + align, withRow(good, 1, ALIGN, align), 4);
+            due("ALIGN " + align, Elf.withRow(good, 1, Elf.ALIGN, align), 4);
         }
     }
 
@@ -116,12 +92,13 @@ final class ObjectErrorsTest {
         Elf elf = Elf.program();
         int second = elf.text(1, 2, 3);
         byte[] good = elf.build();
-        byte[] both = withRow(withRow(good, 1, ALIGN, 3), second, SIZE, -1);
+        byte[] both = Elf.withRow(Elf.withRow(good, 1, Elf.ALIGN, 3), second, Elf.SIZE, -1);
         due("4 of the first before 3 of the second", both, 4);
-        both = withRow(withRow(good, 1, SIZE, -1), second, ALIGN, 3);
+        both = Elf.withRow(Elf.withRow(good, 1, Elf.SIZE, -1), second, Elf.ALIGN, 3);
         due("3 of the first before 4 of the second", both, 3);
-        due("3 before 4 of one", withRow(withRow(good, 1, SIZE, -1), 1, ALIGN, 3), 3);
-        due("4 before 5", withRow(withRow(good, 1, ALIGN, 3), second, TYPE, 2), 4);
+        due("3 before 4 of one",
+                Elf.withRow(Elf.withRow(good, 1, Elf.SIZE, -1), 1, Elf.ALIGN, 3), 3);
+        due("4 before 5", Elf.withRow(Elf.withRow(good, 1, Elf.ALIGN, 3), second, Elf.TYPE, 2), 4);
     }
 
     private static void symbolTables() {
@@ -130,12 +107,12 @@ final class ObjectErrorsTest {
         byte[] good = elf.build();
         int table = elf.symbolsSection();
         due("a good one", good, 0);
-        due("two tables", withRow(good, other, TYPE, 2), 5);
-        due("SIZE is no multiple of 24", withRow(good, table, SIZE, 47), 5);
-        due("LINK is no section", withRow(good, table, LINK, 99), 5);
-        due("LINK is a section of another type", withRow(good, table, LINK, 1), 5);
-        due("no symbols at all", withRow(good, table, SIZE, 0), 0);
-        due("no table", withRow(good, table, TYPE, 7), 0);
+        due("two tables", Elf.withRow(good, other, Elf.TYPE, 2), 5);
+        due("SIZE is no multiple of 24", Elf.withRow(good, table, Elf.SIZE, 47), 5);
+        due("LINK is no section", Elf.withRow(good, table, Elf.LINK, 99), 5);
+        due("LINK is a section of another type", Elf.withRow(good, table, Elf.LINK, 1), 5);
+        due("no symbols at all", Elf.withRow(good, table, Elf.SIZE, 0), 0);
+        due("no table", Elf.withRow(good, table, Elf.TYPE, 7), 0);
         Elf many = new Elf();
         for (int k = 1; k < 64; k++) {
             many.local(0, 0, 0);
@@ -183,14 +160,14 @@ final class ObjectErrorsTest {
         due("no byte", namedSymbol("", 1), 6);
         byte[] good = namedSymbol("abc", 1);
         int table = 2;
-        int row = placeOf(good, table) + 24;
-        due("begins behind the section", with(good, row, 4, 5), 6);
-        due("begins far behind", with(good, row, 4, -1), 6);
-        due("begins at the last byte", with(good, row, 4, 4), 6);
-        due("an end of a name is one", with(good, row, 4, 3), 0);
-        due("no 0 there", withRow(good, table + 1, SIZE, 4), 6);
-        byte[] local = with(namedSymbol("abc", 1), row + 4, 1, 0);
-        due("a local one's name is not looked at", with(local, row, 4, -1), 0);
+        int row = Elf.placeOf(good, table) + 24;
+        due("begins behind the section", Bench.with(good, row, 4, 5), 6);
+        due("begins far behind", Bench.with(good, row, 4, -1), 6);
+        due("begins at the last byte", Bench.with(good, row, 4, 4), 6);
+        due("an end of a name is one", Bench.with(good, row, 4, 3), 0);
+        due("no 0 there", Elf.withRow(good, table + 1, Elf.SIZE, 4), 6);
+        byte[] local = Bench.with(namedSymbol("abc", 1), row + 4, 1, 0);
+        due("a local one's name is not looked at", Bench.with(local, row, 4, -1), 0);
     }
 
     private static byte[] oneCommon(long align, long size) {
@@ -235,13 +212,17 @@ final class ObjectErrorsTest {
         due("no such symbol, of how 0", oneSite(0, 0, 2), 7);
         due("a symbol above all", oneSite(2, 0, -1), 7);
         byte[] good = oneSite(2, 0, 0);
-        due("SIZE is no multiple of 24", withRow(good, 2, SIZE, 23), 7);
-        due("LINK is not the symbols'", withRow(good, 2, LINK, 1), 7);
-        due("INFO is no kept section", withRow(withRow(good, 2, LINK, 1), 2, INFO, 2), 0);
-        due("INFO is no section", withRow(withRow(good, 2, SIZE, 23), 2, INFO, 77), 0);
-        due("no symbols at all", withRow(good, 3, SIZE, 0), 7);
-        due("no symbols' section", withRow(withRow(good, 3, TYPE, 7), 2, SIZE, 0), 7);
-        due("6 before 7", with(withRow(good, 2, LINK, 1), placeOf(good, 3) + 28, 1, 0x30), 6);
+        due("SIZE is no multiple of 24", Elf.withRow(good, 2, Elf.SIZE, 23), 7);
+        due("LINK is not the symbols'", Elf.withRow(good, 2, Elf.LINK, 1), 7);
+        due("INFO is no kept section",
+                Elf.withRow(Elf.withRow(good, 2, Elf.LINK, 1), 2, Elf.INFO, 2), 0);
+        due("INFO is no section",
+                Elf.withRow(Elf.withRow(good, 2, Elf.SIZE, 23), 2, Elf.INFO, 77), 0);
+        due("no symbols at all", Elf.withRow(good, 3, Elf.SIZE, 0), 7);
+        due("no symbols' section",
+                Elf.withRow(Elf.withRow(good, 3, Elf.TYPE, 7), 2, Elf.SIZE, 0), 7);
+        due("6 before 7", Bench.with(Elf.withRow(good, 2, Elf.LINK, 1), Elf.placeOf(good, 3) + 28,
+                1, 0x30), 6);
     }
 
     private static void siteBytes() {
@@ -291,9 +272,9 @@ final class ObjectErrorsTest {
         due("good", good, 0);
         due("good", oneGroup(2, 0), 0);
         due("numbers up to the last section", oneGroup(2, 1, 5, 3), 0);
-        due("SIZE 0", withRow(good, 3, SIZE, 0), 9);
-        due("SIZE 6", withRow(good, 3, SIZE, 6), 9);
-        due("LINK is not the symbols'", withRow(good, 3, LINK, 5), 9);
+        due("SIZE 0", Elf.withRow(good, 3, Elf.SIZE, 0), 9);
+        due("SIZE 6", Elf.withRow(good, 3, Elf.SIZE, 6), 9);
+        due("LINK is not the symbols'", Elf.withRow(good, 3, Elf.LINK, 5), 9);
         due("INFO 0", oneGroup(0, 1, 1), 9);
         due("INFO a local one", oneGroup(1, 1, 1), 9);
         due("INFO no symbol", oneGroup(3, 1, 1), 9);
@@ -312,12 +293,12 @@ final class ObjectErrorsTest {
         due("in two", elf.build(), 9);
         elf.site(elf.sites(text), 0, 2, 0, 0);
         due("7 before 9", elf.build(), 7);
-        due("no symbols' section", withRow(good, 4, TYPE, 7), 9);
+        due("no symbols' section", Elf.withRow(good, 4, Elf.TYPE, 7), 9);
     }
 
     private static void firstSymbol() {
         byte[] good = Elf.program().build();
-        int at = placeOf(good, 2);
+        int at = Elf.placeOf(good, 2);
         byte[] odd = good.clone();
         Arrays.fill(odd, at, at + 24, (byte) 0xee);
         due("of the first symbol nothing is looked at", odd, 0);
