@@ -88,19 +88,28 @@ final class ArchiveEdgesTest {
         Bench.due("a byte 0x0a behind an even number", Bench.add(x, more), 8);
     }
 
+    /** An object of a chain: its code reaches data of its own and the next one's code. */
+    private static byte[] linkOf(int k) {
+        Elf elf = new Elf();
+        int text = elf.text(new int[24]);
+        int data = elf.data(k);
+        int local = elf.local(0, data, 0);
+        int own = elf.global(name(k), text, 0);
+        int next = elf.undefined(name(k + 1));
+        int sites = elf.sites(text);
+        elf.site(sites, 0, 4, next, 0).site(sites, 4, 10, local, 7).site(sites, 8, 9, own, 0)
+                .site(sites, 12, 22, own, 0).site(sites, 16, 9, local, 0)
+                .site(sites, 20, 22, local, 0);
+        return elf.build();
+    }
+
     /** 8 files of 8 members: 64 objects, all of which are taken. */
     private static void fullHouse() {
         LinkHouse x = new LinkHouse();
         for (int f = 0; f < 8; f++) {
             byte[][] members = new byte[8][];
             for (int k = 0; k < 8; k++) {
-                Elf elf = new Elf();
-                int text = elf.text(8 * f + k, 0, 0, 0, 0, 0, 0, 0, 0);
-                int local = elf.local(0, text, 1);
-                elf.global(name(8 * f + k), text, 0);
-                elf.undefined(name(8 * f + k + 1));
-                elf.site(elf.sites(text), 1, 4, local, 7);
-                members[k] = Bench.member("m/", elf.build());
+                members[k] = Bench.member("m/", linkOf(8 * f + k));
             }
             Bench.due("add", Bench.add(x, Bench.archive(members)), 0);
         }
@@ -108,22 +117,10 @@ final class ArchiveEdgesTest {
             Bench.give(x, k == 0 ? name(64) : "given" + k, k);
             Bench.wish(x, k == 0 ? "_start" : "given" + k);
         }
-        Bench.due("link", x.link(false), 0);
-        Bench.due("objects", x.look(5), 64);
-        Bench.due("kept sections", x.look(6), 64);
-        Bench.due("names", x.look(8), 64 + 16);
-        long first = x.place(0);
-        for (int i = 0; i < 64; i++) {
-            Bench.due("file", x.section(i, 0), i / 8);
-            Bench.due("member", x.section(i, 1), i % 8);
-            Bench.due("place", x.place(i), first + 9 * i);
-            Bench.due("taken", x.taken(i / 8, i % 8), true);
-            Bench.due("address", Bench.address(x, name(i)), first + 9 * i);
-            Bench.due("byte", x.out(0x80 + 9 * i) & 255, i);
-            Bench.due("its site", (int) x.out(0x81 + 9 * i), 7);
+        for (int k = 0; k < 2; k++) {
+            Bench.due("link", x.link(k == 1), 0);
+            dueFull(x);
         }
-        Bench.due("with REACHED", x.link(true), 0);
-        Bench.due("_start's section alone", x.look(6), 1);
         Bench.due("pack", x.pack(), -1);
         Bench.due("merge", x.merge(), -1);
         Bench.dueThrow("file 8", NoSuchElementException.class, () -> x.taken(8, 0) ? 1 : 0);
@@ -131,6 +128,35 @@ final class ArchiveEdgesTest {
         Bench.dueThrow("file 8", NoSuchElementException.class, () -> x.list(8, 0));
         Bench.dueThrow("file 8", NoSuchElementException.class, () -> x.sum(8, 0, 0));
         Bench.dueThrow("member 8", NoSuchElementException.class, () -> x.taken(7, 8) ? 1 : 0);
+    }
+
+    private static void dueFull(LinkHouse x) {
+        Bench.due("objects", x.look(5), 64);
+        Bench.due("kept sections", x.look(6), 128);
+        Bench.due("names", x.look(8), 64 + 16);
+        Bench.due("slots", x.look(12), 256);
+        long text = x.place(0);
+        long data = x.place(64);
+        int code = (int) x.out(64 + 8);
+        int bytes = (int) x.out(64 + 56 + 8);
+        for (int i = 0; i < 64; i++) {
+            Bench.due("file", x.section(i, 0), i / 8);
+            Bench.due("member", x.section(i, 1), i % 8);
+            Bench.due("place", x.place(i), text + 24 * i);
+            Bench.due("place", x.place(64 + i), data + i);
+            Bench.due("taken", x.taken(i / 8, i % 8), true);
+            Bench.due("address", Bench.address(x, name(i)), text + 24 * i);
+            Bench.due("byte", x.out(bytes + i) & 255, i);
+            Bench.due("the next one", (int) x.out(code + 24 * i), i < 63 ? 24 : -text - 24 * i);
+            Bench.due("its own", (int) x.out(code + 24 * i + 4), data + i + 7);
+            long[] slots = {text + 24 * i, text + 24 * i - x.look(15), data + i,
+                data + i - x.look(15)};
+            for (int k = 0; k < 4; k++) {
+                long way = data + 64 + 8 * (4 * i + k) - (text + 24 * i + 8 + 4 * k);
+                Bench.due("slot", (int) x.out(code + 24 * i + 8 + 4 * k), way);
+                Bench.due("it holds", x.out(bytes + 64 + 8 * (4 * i + k)), slots[k]);
+            }
+        }
     }
 
     private static String name(int k) {

@@ -383,6 +383,7 @@ final class LinkEdgesTest {
         x.drop();
         Bench.due("gone with it", x.link(false), 0);
         Bench.due("one object", x.look(5), 1);
+        homesGo();
         LinkHouse y = Bench.house(Elf.program(), groups("a", 1), groups("a", 1));
         for (int k = 0; k < 3; k++) {
             Bench.due("link", y.link(k == 1), 0);
@@ -401,6 +402,35 @@ final class LinkEdgesTest {
         Bench.due("kept", y.look(6), 0);
         Bench.due("taken", y.look(5), 0);
         Bench.due("names", y.look(8), 0);
+    }
+
+    /** Where a name was defined is forgotten, also when another name comes in its place. */
+    private static void homesGo() {
+        Elf own = new Elf();
+        own.weak("_end", 0, 0);
+        own.global("_start", own.text(1, 2), 0);
+        LinkHouse x = Bench.house(own);
+        Bench.due("link", x.link(false), 0);
+        Bench.due("the linker's", Bench.address(x, "_end"), 0x401000);
+        x.drop();
+        Elf other = new Elf();
+        int w = other.weak("w", 0, 0);
+        int text = other.text(new int[8]);
+        other.global("_start", text, 0);
+        other.site(other.sites(text), 0, 9, w, 0);
+        Bench.add(x, other);
+        Bench.due("link", x.link(false), 0);
+        Bench.due("undefined", Bench.address(x, "w"), 0);
+        Bench.due("its slot", x.out((int) x.out(64 + 56 + 8)), 0);
+        Bench.give(x, "w", 9);
+        x.link(false);
+        x.forget();
+        Bench.due("merge", x.merge(), 0);
+        byte[] o = Bench.out(x);
+        int at = Elf.placeOf(o, 3);
+        Bench.due("_start is defined", Bench.num(o, at + 24 + 4, 4), 0x10010);
+        Bench.due("w is not", Bench.num(o, at + 48 + 4, 4), 0x20);
+        Bench.due("nor has it a VALUE", Bench.num(o, at + 48 + 8, 8), 0);
     }
 
     /** All 20 bytes of a name count, and all come out. */

@@ -20,6 +20,7 @@ final class MemoryEdgesTest {
         nameRows();
         firstSymbol();
         namesGo();
+        symbolsEnd();
         nearest();
         looks();
         Bench.end();
@@ -167,6 +168,13 @@ final class MemoryEdgesTest {
             Bench.due("its FLAGS", x.flags(0x1001 + 2 * k), k);
         }
         Bench.due("behind the last", x.peek(0x1010), -1);
+        Bench.feed(x, Bench.with(Exe.good(), 56, 2, 2));
+        Bench.due("boot", x.boot(true), 0);
+        Bench.due("one row", x.look(9), 1);
+        for (int k = 2; k < 8; k++) {
+            Bench.due("the rows before are gone", x.peek(0x1000 + 2 * k), -1);
+            Bench.due("and their FLAGS", x.flags(0x1000 + 2 * k), -1);
+        }
         byte[] nine = Arrays.copyOf(eight(), 1000);
         due("9 rows, of which 8 are loaded", Bench.with(nine, 56, 2, 9), 2);
         byte[] wrong = eight();
@@ -331,6 +339,25 @@ final class MemoryEdgesTest {
         Bench.feed(x, good);
         Bench.due("boot", x.boot(true), 0);
         Bench.due("they are there", x.look(18), 4);
+    }
+
+    /** A symbol behind the last one is none. */
+    private static void symbolsEnd() {
+        byte[] good = Exe.named();
+        LinkHouse x = booted(Bench.with(good, Elf.rowOf(good, 2) + 32, 8, 48));
+        Bench.due("one name", x.look(18), 1);
+        Bench.due("near", x.near(0x1003), 3);
+        Bench.due("it", Bench.outText(x), "a");
+        byte[] many = new byte[24 * 48];
+        for (int j = 1; j < 48; j++) {
+            System.arraycopy(Exe.symbol(1, 0x10, 1, 0x1000 + j / 24), 0, many, 24 * j, 24);
+        }
+        byte[] b = Bench.join(good, many);
+        Bench.set(b, Elf.rowOf(good, 2) + 24, 8, good.length);
+        Bench.set(b, Elf.rowOf(good, 2) + 32, 8, 24 * 24);
+        x = booted(b);
+        Bench.due("24 symbols", x.look(18), 23);
+        Bench.due("the next one is none", x.near(0x1001), 1);
     }
 
     private static void nearest() {

@@ -122,15 +122,55 @@ final class ObjectEdgesTest {
             Bench.due("link", x.link(false), 0);
             Bench.due("one kept section", x.look(6), 1);
         }
-        Elf elf = Elf.program();
+        hiddenSites();
+        hiddenGroup();
+    }
+
+    /** Sites in a row behind the last one fill nothing, reach nothing and merge nothing. */
+    private static void hiddenSites() {
+        Elf elf = new Elf();
+        int text = elf.text(new int[16]);
+        int strings = elf.strings("abc\0");
+        int data = elf.data(1);
+        elf.global("_start", text, 0);
+        int local = elf.local(0, data, 0);
         elf.symbolsSection();
-        int sites = elf.sites(1);
-        elf.site(sites, 0, 0, 0, 0);
-        byte[] fewer = Bench.with(elf.build(), 60, 2, sites);
+        int sites = elf.sites(text);
+        elf.site(sites, 0, 9, local, 0).site(sites, 8, 1, local, 0);
+        byte[] built = elf.build();
+        byte[] fewer = Bench.with(built, 60, 2, sites);
         LinkHouse x = new LinkHouse();
         Bench.due("sites behind the last row", Bench.add(x, fewer), 0);
-        x.merge();
-        Bench.due("they are not merged", x.out(60) & 0xffff, 4);
+        Bench.due("link", x.link(false), 0);
+        Bench.due("no slot", x.look(12), 0);
+        Bench.due("nothing is filled", x.out((int) x.out(64 + 8) + 8), 0);
+        Bench.due("merge", x.merge(), 0);
+        byte[] merged = Bench.out(x);
+        Bench.due("they are not merged", Bench.num(merged, 60, 2), 6);
+        Bench.due("nor their rows", merged.length, Elf.rowOf(merged, 6));
+        Bench.due("link", x.link(true), 0);
+        Bench.due("nothing is reached", x.look(6), 1);
+        x.drop();
+        Bench.due("add", Bench.add(x, Elf.withRow(fewer, sites, Elf.INFO, strings)), 0);
+        Bench.due("link", x.link(false), 0);
+        Bench.due("strings without sites", x.look(14), 4);
+    }
+
+    private static void hiddenGroup() {
+        Elf elf = Elf.program();
+        int data = elf.data(1);
+        int sign = elf.weak("sign", Elf.FIXED, 0);
+        elf.group(sign, 1);
+        elf.symbolsSection();
+        int group = elf.group(sign, 1, data);
+        LinkHouse x = Bench.house(elf);
+        Bench.due("link", x.link(false), 0);
+        Bench.due("a group in a row", x.look(13), 1);
+        x.drop();
+        Bench.due("add", Bench.add(x, Bench.with(elf.build(), 60, 2, group)), 0);
+        Bench.due("link", x.link(false), 0);
+        Bench.due("a group behind the last row", x.look(13), 0);
+        Bench.due("kept sections", x.look(6), 2);
     }
 
     private static void wholeSymbols() {
@@ -301,6 +341,15 @@ final class ObjectEdgesTest {
         Bench.due("one name", x.look(8), 1);
         Bench.due("two kept sections", x.look(6), 2);
         Bench.due("pack", x.pack(), 132 + bare.length + bare.length % 2);
+        x.drop();
+        Elf program = Elf.program();
+        Bench.due("add", Bench.add(x, program), 0);
+        Bench.due("its list", x.list(0, 0), 26);
+        x.drop();
+        bare = Elf.withRow(program.build(), program.symbolsSection(), Elf.TYPE, 7);
+        Bench.due("the same bytes without symbols", Bench.add(x, bare), 0);
+        Bench.due("no list", x.list(0, 0), 0);
+        Bench.due("link", x.link(false), 0);
         byte[] bad = Bench.with(Elf.program().build(), 60, 2, 0);
         Bench.due("a bad one", Bench.add(x, bad), 2);
         Bench.due("is no file", x.look(0), 1);
