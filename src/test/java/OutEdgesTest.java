@@ -287,8 +287,15 @@ final class OutEdgesTest {
     }
 
     private static void mergedAnswers() {
-        LinkHouse x = Bench.house(fileOf(62000));
+        LinkHouse x = Bench.house(Elf.program());
         Bench.due("merge", x.merge(), 0);
+        Bench.due("OUT is no executable", x.boot(false), 1);
+        Bench.due("the link is done", x.look(3), 0);
+        Bench.due("its sections", x.section(0, 4), 2);
+        Bench.due("its addresses", Bench.address(x, "_start"), 0x400080);
+        Bench.due("what it took", x.taken(0, 0), true);
+        Bench.due("its file with names", x.named(), 136 + 48 + 8 + 256);
+        Bench.due("boot", x.boot(false), 0);
         Elf zeros = new Elf();
         for (int k = 0; k < 4; k++) {
             zeros.zeros(Elf.DATA, 1, 16384);
