@@ -6,7 +6,6 @@ final class ArchiveEdgesTest {
     public static void main(String[] args) {
         emptyMembers();
         oddSizes();
-        fullHouse();
         membersOfNeighbours();
         doubleInMember();
         droppedMemberAlone();
@@ -88,81 +87,6 @@ final class ArchiveEdgesTest {
         Bench.due("a byte 0x0a behind an even number", Bench.add(x, more), 8);
     }
 
-    /** An object of a chain: its code reaches data of its own and the next one's code. */
-    private static byte[] linkOf(int k) {
-        Elf elf = new Elf();
-        int text = elf.text(new int[24]);
-        int data = elf.data(k);
-        int local = elf.local(0, data, 0);
-        int own = elf.global(name(k), text, 0);
-        int next = elf.undefined(name(k + 1));
-        int sites = elf.sites(text);
-        elf.site(sites, 0, 4, next, 0).site(sites, 4, 10, local, 7).site(sites, 8, 9, own, 0)
-                .site(sites, 12, 22, own, 0).site(sites, 16, 9, local, 0)
-                .site(sites, 20, 22, local, 0);
-        return elf.build();
-    }
-
-    /** 8 files of 8 members: 64 objects, all of which are taken. */
-    private static void fullHouse() {
-        LinkHouse x = new LinkHouse();
-        for (int f = 0; f < 8; f++) {
-            byte[][] members = new byte[8][];
-            for (int k = 0; k < 8; k++) {
-                members[k] = Bench.member("m/", linkOf(8 * f + k));
-            }
-            Bench.due("add", Bench.add(x, Bench.archive(members)), 0);
-        }
-        for (int k = 0; k < 16; k++) {
-            Bench.give(x, k == 0 ? name(64) : "given" + k, k);
-            Bench.wish(x, k == 0 ? "_start" : "given" + k);
-        }
-        for (int k = 0; k < 2; k++) {
-            Bench.due("link", x.link(k == 1), 0);
-            dueFull(x);
-        }
-        Bench.due("pack", x.pack(), -1);
-        Bench.due("merge", x.merge(), -1);
-        Bench.dueThrow("file 8", NoSuchElementException.class, () -> x.taken(8, 0) ? 1 : 0);
-        Bench.dueThrow("file 8", NoSuchElementException.class, () -> x.cause(8, 0));
-        Bench.dueThrow("file 8", NoSuchElementException.class, () -> x.list(8, 0));
-        Bench.dueThrow("file 8", NoSuchElementException.class, () -> x.sum(8, 0, 0));
-        Bench.dueThrow("member 8", NoSuchElementException.class, () -> x.taken(7, 8) ? 1 : 0);
-    }
-
-    private static void dueFull(LinkHouse x) {
-        Bench.due("objects", x.look(5), 64);
-        Bench.due("kept sections", x.look(6), 128);
-        Bench.due("names", x.look(8), 64 + 16);
-        Bench.due("slots", x.look(12), 256);
-        long text = x.place(0);
-        long data = x.place(64);
-        int code = (int) x.out(64 + 8);
-        int bytes = (int) x.out(64 + 56 + 8);
-        for (int i = 0; i < 64; i++) {
-            Bench.due("file", x.section(i, 0), i / 8);
-            Bench.due("member", x.section(i, 1), i % 8);
-            Bench.due("place", x.place(i), text + 24 * i);
-            Bench.due("place", x.place(64 + i), data + i);
-            Bench.due("taken", x.taken(i / 8, i % 8), true);
-            Bench.due("address", Bench.address(x, name(i)), text + 24 * i);
-            Bench.due("byte", x.out(bytes + i) & 255, i);
-            Bench.due("the next one", (int) x.out(code + 24 * i), i < 63 ? 24 : -text - 24 * i);
-            Bench.due("its own", (int) x.out(code + 24 * i + 4), data + i + 7);
-            long[] slots = {text + 24 * i, text + 24 * i - x.look(15), data + i,
-                data + i - x.look(15)};
-            for (int k = 0; k < 4; k++) {
-                long way = data + 64 + 8 * (4 * i + k) - (text + 24 * i + 8 + 4 * k);
-                Bench.due("slot", (int) x.out(code + 24 * i + 8 + 4 * k), way);
-                Bench.due("it holds", x.out(bytes + 64 + 8 * (4 * i + k)), slots[k]);
-            }
-        }
-    }
-
-    private static String name(int k) {
-        return k == 0 ? "_start" : "n" + k;
-    }
-
     /** Member 8 of a file is none, also when a file comes behind it. */
     private static void membersOfNeighbours() {
         LinkHouse x = Bench.house(Elf.program(), new Elf());
@@ -222,6 +146,13 @@ final class ArchiveEdgesTest {
         Bench.due("groups dropped", x.look(13), 1);
     }
 
+    private static LinkHouse wishing(String name) {
+        LinkHouse x = new LinkHouse();
+        Bench.give(x, "_start", 1);
+        Bench.wish(x, name);
+        return x;
+    }
+
     /** The last member is wanted first: eight rounds, and one that takes none. */
     private static void backwards() {
         byte[][] members = new byte[8][];
@@ -229,20 +160,20 @@ final class ArchiveEdgesTest {
             byte[] object = k == 0 ? defining("n0") : defining("n" + k, "n" + (k - 1));
             members[k] = Bench.member("m/", object);
         }
-        LinkHouse x = Bench.house(needing("n7"));
+        LinkHouse x = wishing("n7");
         Bench.add(x, Bench.archive(members));
         Bench.due("link", x.link(false), 0);
-        Bench.due("objects taken", x.look(5), 9);
-        for (int i = 1; i <= 8; i++) {
-            Bench.due("in the order of taking", x.section(i, 1), 8 - i);
+        Bench.due("objects taken", x.look(5), 8);
+        for (int i = 0; i < 8; i++) {
+            Bench.due("in the order of taking", x.section(i, 1), 7 - i);
         }
-        x.drop();
         byte[][] fewer = members.clone();
         fewer[3] = Bench.member("/", new byte[2]);
-        Bench.add(x, Bench.archive(fewer));
-        Bench.due("one is missing", x.link(false), 2);
-        Bench.due("OUT", Bench.outText(x), "n3");
-        Bench.due("objects taken", x.look(5), 5);
+        LinkHouse y = wishing("n7");
+        Bench.add(y, Bench.archive(fewer));
+        Bench.due("one is missing", y.link(false), 2);
+        Bench.due("OUT", Bench.outText(y), "n3");
+        Bench.due("objects taken", y.look(5), 4);
     }
 
     private static void takenOnce() {

@@ -12,7 +12,6 @@ final class ArchiveTest {
         rounds();
         weakAndWished();
         laterFiles();
-        manyRefusals();
         Bench.end();
     }
 
@@ -158,24 +157,23 @@ final class ArchiveTest {
         Bench.due("an archive ahead is not gone back to", x.link(false), 2);
         Bench.due("wanted", Bench.outText(x), "a");
         Bench.due("objects taken", x.look(5), 1);
-        x.drop();
-        x.drop();
-        Bench.add(x, needing("a"));
-        Bench.add(x, archive);
-        Bench.due("link", x.link(false), 0);
-        Bench.due("objects taken", x.look(5), 4);
+        LinkHouse y = new LinkHouse();
+        Bench.add(y, needing("a"));
+        Bench.add(y, archive);
+        Bench.due("link", y.link(false), 0);
+        Bench.due("objects taken", y.look(5), 4);
         StringBuilder order = new StringBuilder();
         for (int i = 1; i < 4; i++) {
-            order.append(x.section(i, 1));
+            order.append(y.section(i, 1));
         }
         Bench.due("in three rounds", order.toString(), "210");
         byte[] twice = Bench.archive(Bench.member("a/", defining("b", "a")),
                 Bench.member("b/", defining(null, "b")), Bench.member("c/", defining(null, "b")));
-        x.drop();
-        Bench.add(x, twice);
-        Bench.due("link", x.link(false), 0);
-        Bench.due("the next one in the same round", x.taken(1, 1), true);
-        Bench.due("what is defined is not wanted", x.taken(1, 2), false);
+        y.drop();
+        Bench.add(y, twice);
+        Bench.due("link", y.link(false), 0);
+        Bench.due("the next one in the same round", y.taken(1, 1), true);
+        Bench.due("what is defined is not wanted", y.taken(1, 2), false);
     }
 
     private static void weakAndWished() {
@@ -205,22 +203,6 @@ final class ArchiveTest {
         Bench.add(y, Bench.archive(Bench.member("v/", common.build())));
         Bench.due("a common one defines", y.link(false), 0);
         Bench.due("taken", y.taken(1, 0), true);
-    }
-
-    private static void manyRefusals() {
-        LinkHouse x = Bench.house(Elf.program());
-        for (int k = 0; k < 10; k++) {
-            Bench.due("a large bad one", Bench.add(x, new byte[8000]), 1);
-        }
-        Elf large = new Elf();
-        large.global("a", large.data(new int[4000]), 0);
-        for (int k = 0; k < 10; k++) {
-            Bench.due("a large good one", Bench.add(x, large), 0);
-            Bench.due("link", x.link(false), 0);
-            Bench.due("it goes", x.drop(), 1);
-        }
-        Bench.due("all are gone", x.link(false), 0);
-        Bench.due("OUT", x.look(2), 130);
     }
 
     private static void laterFiles() {

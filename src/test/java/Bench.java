@@ -8,6 +8,11 @@ final class Bench {
         long run();
     }
 
+    /** How a house is made, again and again alike. */
+    interface Maker {
+        LinkHouse make();
+    }
+
     private static int wrong = 0;
     private static int asked = 0;
 
@@ -103,10 +108,23 @@ final class Bench {
         return x.address();
     }
 
+    /** Eight bytes a call, since an object promises no more than 512 calls. */
     static byte[] out(LinkHouse x) {
         byte[] bytes = new byte[(int) x.look(2)];
-        for (int i = 0; i < bytes.length; i++) {
-            bytes[i] = (byte) x.out(i);
+        for (int i = 0; i < bytes.length; i += 8) {
+            set(bytes, i, Math.min(8, bytes.length - i), x.out(i));
+        }
+        return bytes;
+    }
+
+    /** All of OUT, read from houses that are made alike: the calls of one would not do. */
+    static byte[] out(Maker maker) {
+        byte[] bytes = new byte[(int) maker.make().look(2)];
+        for (int from = 0; from < bytes.length; from += 480) {
+            LinkHouse x = maker.make();
+            for (int i = from; i < bytes.length && i < from + 480; i += 8) {
+                set(bytes, i, Math.min(8, bytes.length - i), x.out(i));
+            }
         }
         return bytes;
     }

@@ -1,4 +1,5 @@
 import java.util.ArrayList;
+import java.util.Arrays;
 import java.util.List;
 
 /** Builds an object: sections, symbols and sites in the order in which they are told. */
@@ -31,6 +32,7 @@ final class Elf {
         long info;
         long align = 1;
         long place = -1;
+        boolean shared;
     }
 
     private final List<Section> sections = new ArrayList<>();
@@ -74,6 +76,17 @@ final class Elf {
     int zeros(long flags, long align, long size) {
         int i = section(8, flags, align, new byte[0]);
         sections.get(i).size = size;
+        return i;
+    }
+
+    /**
+     * A section whose bytes are those behind the head, whatever lies there: objects of few bytes
+     * have large sections so, and 512 calls are enough.
+     */
+    int shared(long flags, long align, long size) {
+        int i = section(1, flags, align, new byte[0]);
+        sections.get(i).size = size;
+        sections.get(i).shared = true;
         return i;
     }
 
@@ -189,12 +202,16 @@ final class Elf {
         text.size = text.bytes.length;
         byte[] body = new byte[64];
         for (Section s : sections) {
-            s.place = body.length;
+            s.place = s.shared ? 64 : body.length;
             body = Bench.join(body, s.bytes);
         }
         int rows = body.length;
         for (Section s : sections) {
             body = Bench.join(body, row(s));
+        }
+        for (Section s : sections) {
+            long end = s.shared ? s.place + s.size : 0;
+            body = end > body.length ? Arrays.copyOf(body, (int) end) : body;
         }
         head(body, rows);
         return body;

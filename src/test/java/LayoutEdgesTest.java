@@ -35,7 +35,8 @@ final class LayoutEdgesTest {
 
     private static Elf sized(int text, int data) {
         Elf elf = new Elf();
-        elf.global("_start", elf.text(new int[text]), 0);
+        elf.global("_start", elf.shared(Elf.TEXT, 1, text / 2), 0);
+        elf.shared(Elf.TEXT, 1, text - text / 2);
         elf.data(new int[data]);
         return elf;
     }
@@ -72,7 +73,8 @@ final class LayoutEdgesTest {
         for (int k = 0; k < 16; k++) {
             elf.section(1, flags, k == 0 ? 1 : 4096, Bench.bytes(1));
         }
-        elf.section(1, flags, 1, new byte[last]);
+        elf.shared(flags, 1, last / 2);
+        elf.shared(flags, 1, last - last / 2);
         return elf;
     }
 
@@ -116,15 +118,18 @@ final class LayoutEdgesTest {
         for (int k = 0; k < 15; k++) {
             elf.section(1, Elf.TEXT, 4096, Bench.bytes(1));
         }
-        elf.section(1, Elf.TEXT, 1, new byte[bytes - 0xf001]);
+        elf.shared(Elf.TEXT, 1, 2000);
+        elf.shared(Elf.TEXT, 1, bytes - 0xf001 - 2000);
         return elf;
     }
 
     private static void fullFile() {
-        LinkHouse x = linked(fileOf(65536));
+        Elf full = fileOf(65536);
+        LinkHouse x = linked(full);
         Bench.due("65536 bytes", x.look(2), 65536);
-        Bench.due("its last byte", x.out(65535), 0);
-        Bench.due("a byte of it", x.out(0xf000), 1);
+        byte[] object = full.build();
+        Bench.due("its last byte", x.out(65535), object[64 + 0xfff - 2000 - 1] & 255);
+        Bench.due("a byte of it", x.out(0xf000) & 255, 1);
         Bench.due("memory", row(x, 0, 40), 65536 - 128);
         Bench.due("boot", x.boot(false), 0);
         Bench.due("named", x.named(), -1);
@@ -134,7 +139,7 @@ final class LayoutEdgesTest {
         Bench.due("OUT stays", y.look(2), 0);
         Bench.due("look 3", y.look(3), 3);
         Bench.due("objects", y.look(5), 1);
-        Bench.due("kept sections", y.look(6), 17);
+        Bench.due("kept sections", y.look(6), 18);
         Bench.due("names", y.look(8), 1);
         Bench.dueThrow("map", IllegalStateException.class, () -> y.map());
         Bench.dueThrow("place", IllegalStateException.class, () -> y.place(0));

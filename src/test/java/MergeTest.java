@@ -214,17 +214,24 @@ final class MergeTest {
         Bench.wish(y, "w");
         Bench.due("65 symbols", y.merge(), -1);
         Bench.due("OUT is as behind the link", Bench.outText(y), "w");
-        LinkHouse z = Bench.house(large("_start", 4000), large("b", 3720));
+        // 64, 7 * 1000, what comes then, 3 symbols, 10 bytes of names up to 16, 11 rows
+        int rest = 8192 - 64 - 7 * 1000 - 3 * 24 - 16 - 11 * 64;
+        LinkHouse z = Bench.house(large("_start", 7, 1000), large("b", 1, rest));
         Bench.due("8192 bytes", z.merge(), 0);
         Bench.due("OUT", z.look(2), 8192);
         z.drop();
-        Bench.add(z, large("b", 3721));
+        Bench.add(z, large("b", 1, rest + 1));
         Bench.due("more", z.merge(), -1);
+        Bench.due("OUT is a file", z.out(16) & 0xffff, 2);
     }
 
-    private static Elf large(String name, int size) {
+    /** An object with some sections of so many bytes each. */
+    private static Elf large(String name, int sections, int size) {
         Elf elf = new Elf();
-        elf.global(name, elf.data(new int[size]), 0);
+        for (int k = 0; k < sections; k++) {
+            elf.shared(Elf.DATA, 1, size);
+        }
+        elf.global(name, 1, 0);
         return elf;
     }
 }

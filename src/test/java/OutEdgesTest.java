@@ -9,7 +9,6 @@ final class OutEdgesTest {
         digits();
         listsAgain();
         mapsAgain();
-        tooLongMap();
         fullNamed();
         mergedFull();
         mergedNumbers();
@@ -117,63 +116,6 @@ final class OutEdgesTest {
         Bench.due("OUT", Bench.outText(y), "0000000000000005 _start\n");
     }
 
-    /** Object k of a chain: it defines so many names and misses the next one's. */
-    private static byte[] manyNames(int k, int count) {
-        Elf elf = new Elf();
-        elf.global("k" + k, Elf.FIXED, k);
-        elf.undefined("k" + (k + 1));
-        int at = 0;
-        for (int n = 1; n < count; n++) {
-            // an end of a text is another name, and takes no room of its own
-            if (n % 9 == 1) {
-                at = elf.nameText(String.format(".............%05d%02d", k, n));
-            }
-            elf.symbolAt(at + (n - 1) % 9, Elf.GLOBAL, 0, Elf.FIXED, n, 0);
-        }
-        return elf.build();
-    }
-
-    private static void tooLongMap() {
-        LinkHouse x = new LinkHouse();
-        for (int f = 0; f < 8; f++) {
-            byte[][] members = new byte[4][];
-            for (int k = 0; k < 4; k++) {
-                members[k] = Bench.member("m/", manyNames(4 * f + k, f < 7 ? 62 : 46));
-            }
-            Bench.due("add", Bench.add(x, Bench.archive(members)), 0);
-        }
-        Bench.give(x, "_start", 1);
-        Bench.wish(x, "k0");
-        Bench.give(x, "k32", 0);
-        Bench.due("link", x.link(false), 0);
-        Bench.due("objects", x.look(5), 32);
-        int rest = 65536 - x.map();
-        Bench.due("a map that is nearly full", rest > 38 && rest < 13 * 38, true);
-        for (int k = 0; rest > 0; k++) {
-            int line = rest >= 2 * 38 ? 38 : rest > 38 ? rest / 2 : rest;
-            Bench.give(x, String.format("%02d................................", k)
-                    .substring(0, line - 18), k);
-            rest -= line;
-        }
-        Bench.due("link", x.link(false), 0);
-        Bench.due("65536 bytes", x.map(), 65536);
-        Bench.due("the last one", x.out(65535), 10);
-        Bench.give(x, "more", 1);
-        Bench.due("link", x.link(false), 0);
-        long file = x.look(2);
-        Bench.due("more", x.map(), -1);
-        Bench.due("OUT stays", x.look(2), file);
-        Bench.due("named is refused, too", x.named(), -1);
-        Bench.due("OUT stays", x.look(2), file);
-        for (int k = 0; k < 7; k++) {
-            x.drop();
-        }
-        x.forget();
-        Bench.give(x, "_start", 1);
-        Bench.due("link of less", x.link(false), 0);
-        Bench.due("its map", x.map(), 24);
-    }
-
     /** A file of text that is so many bytes long. */
     private static Elf fileOf(int bytes) {
         Elf elf = new Elf();
@@ -181,7 +123,8 @@ final class OutEdgesTest {
         for (int k = 0; k < 15; k++) {
             elf.section(1, Elf.TEXT, 4096, Bench.bytes(1));
         }
-        elf.section(1, Elf.TEXT, 1, new byte[bytes - 0xf001]);
+        elf.shared(Elf.TEXT, 1, 1900);
+        elf.shared(Elf.TEXT, 1, bytes - 0xf001 - 1900);
         return elf;
     }
 
@@ -232,22 +175,30 @@ final class OutEdgesTest {
         for (int k = 0; k < 62; k++) {
             elf.local(0, 2 * (k % 10) + 1, k);
         }
-        LinkHouse x = Bench.house(elf);
-        Bench.due("link", x.link(false), 0);
-        byte[] file = Bench.out(x);
-        Bench.due("merge", x.merge(), 0);
-        byte[] merged = Bench.out(x);
+        byte[] object = elf.build();
+        byte[] file = Bench.out(() -> linkedOf(object));
+        byte[] merged = Bench.out(() -> mergedOf(object));
         Bench.due("24 sections", Bench.num(merged, 60, 2), 24);
         Bench.due("64 symbols", Bench.num(merged, Elf.rowOf(merged, 22) + Elf.SIZE, 8), 24 * 64);
         Bench.due("rows up to the end", merged.length, Elf.rowOf(merged, 24));
-        LinkHouse y = houseOf(merged);
-        Bench.due("link", y.link(false), 0);
-        Bench.due("the same file", Bench.out(y), file);
-        Bench.due("merge", y.merge(), 0);
-        Bench.due("and the same object", Bench.out(y), merged);
-        Bench.give(y, "g", 1);
-        Bench.due("65 symbols", y.merge(), -1);
-        Bench.due("OUT is the file", Bench.out(y), file);
+        Bench.due("the same file", Bench.out(() -> linkedOf(merged)), file);
+        Bench.due("and the same object", Bench.out(() -> mergedOf(merged)), merged);
+        LinkHouse x = houseOf(merged);
+        Bench.give(x, "g", 1);
+        Bench.due("65 symbols", x.merge(), -1);
+        Bench.due("OUT is the file", Bench.out(x), file);
+    }
+
+    private static LinkHouse linkedOf(byte[] object) {
+        LinkHouse x = houseOf(object);
+        Bench.due("link", x.link(false), 0);
+        return x;
+    }
+
+    private static LinkHouse mergedOf(byte[] object) {
+        LinkHouse x = houseOf(object);
+        Bench.due("merge", x.merge(), 0);
+        return x;
     }
 
     private static void mergedNumbers() {
@@ -359,29 +310,38 @@ final class OutEdgesTest {
 
     private static void packedAgain() {
         LinkHouse x = Bench.house(Elf.program());
-        byte[] first = null;
-        for (int k = 0; k < 3; k++) {
-            x.pack();
-            first = first == null ? Bench.out(x) : first;
+        x.pack();
+        byte[] first = Bench.out(x);
+        for (int k = 0; k < 2; k++) {
+            Bench.due("pack", x.pack(), first.length);
             Bench.due("the same", Bench.out(x), first);
         }
-        for (int k = 0; k < 6; k++) {
-            Bench.add(x, new Elf());
-        }
-        Bench.due("7 objects", x.pack() > first.length, true);
-        byte[] seven = Bench.out(x);
-        Bench.add(x, Bench.archive(Bench.member("/", new byte[3])));
-        Bench.due("an archive without objects counts for none", x.pack(), seven.length);
-        x.drop();
-        Bench.add(x, new Elf());
-        Bench.due("8 objects", x.pack(), -1);
-        Bench.due("OUT stays", Bench.out(x), seven);
+        byte[] seven = Bench.out(() -> packedOf(7));
+        Bench.due("7 objects", seven.length > first.length, true);
+        LinkHouse more = packedOf(7);
+        Bench.add(more, Bench.archive(Bench.member("/", new byte[3])));
+        Bench.due("an archive without objects counts for none", more.pack(), seven.length);
+        more.drop();
+        Bench.add(more, new Elf());
+        Bench.due("8 objects", more.pack(), -1);
+        Bench.due("OUT stays", more.look(2), seven.length);
+        Bench.due("its index", more.out(8 + 60), Bench.num(seven, 8 + 60, 8));
         LinkHouse y = houseOf(seven);
         for (int k = 1; k <= 7; k++) {
             Bench.due("object " + k, y.list(0, k), k == 1 ? 26 : 0);
         }
         Bench.due("digits of the objects", seven[seven.length - 60 - new Elf().build().length
                 - new Elf().build().length % 2 + 1], '6');
+    }
+
+    /** A house with so many objects that has packed them. */
+    private static LinkHouse packedOf(int objects) {
+        LinkHouse x = Bench.house(Elf.program());
+        for (int k = 1; k < objects; k++) {
+            Bench.add(x, new Elf());
+        }
+        x.pack();
+        return x;
     }
 
     private static String state(LinkHouse x) {
@@ -392,52 +352,73 @@ final class OutEdgesTest {
         return text.append(Bench.hex(Bench.out(x))).toString();
     }
 
-    private static void dueSame(LinkHouse x, String what, Class<? extends RuntimeException> want,
-            Bench.Call call) {
+    /** A call that is refused. */
+    private interface Refused {
+        long run(LinkHouse x);
+    }
+
+    private static void dueSame(Bench.Maker maker, String what,
+            Class<? extends RuntimeException> want, Refused call) {
+        LinkHouse x = maker.make();
         String before = state(x);
-        Bench.dueThrow(what, want, call);
+        Bench.dueThrow(what, want, () -> call.run(x));
         Bench.due(what + " changes nothing", state(x), before);
     }
 
     private static void refusedCalls() {
+        Class<IllegalStateException> state = IllegalStateException.class;
+        dueSame(() -> new LinkHouse(), "drop", state, x -> x.drop());
+        dueSame(() -> fullHouse(), "a ninth file", state, x -> x.add());
+        refuse(() -> fed());
+        refuse(() -> fullHouse());
+        Class<NoSuchElementException> none = NoSuchElementException.class;
+        dueSame(() -> booted(), "section", none, x -> x.section(1, 0));
+        dueSame(() -> booted(), "section", none, x -> x.section(0, 5));
+        dueSame(() -> booted(), "place", none, x -> x.place(1));
+    }
+
+    private static LinkHouse fed() {
         LinkHouse x = new LinkHouse();
-        dueSame(x, "drop", IllegalStateException.class, () -> x.drop());
         x.feed(3, 5);
-        refuse(x);
+        return x;
+    }
+
+    /** Eight files, the second of which brings a double. */
+    private static LinkHouse fullHouse() {
+        LinkHouse x = new LinkHouse();
         for (int k = 0; k < 8; k++) {
-            x.add();
             Bench.due("add", Bench.add(x, Elf.program()), 0);
         }
         x.feed(3, 5);
-        dueSame(x, "a ninth file", IllegalStateException.class, () -> x.add());
         x.link(false);
-        refuse(x);
-        for (int k = 0; k < 7; k++) {
-            x.drop();
-        }
-        x.link(false);
-        x.boot(false);
-        Class<NoSuchElementException> none = NoSuchElementException.class;
-        dueSame(x, "section", none, () -> x.section(1, 0));
-        dueSame(x, "section", none, () -> x.section(0, 5));
-        dueSame(x, "place", none, () -> x.place(1));
+        return x;
     }
 
-    private static void refuse(LinkHouse x) {
+    private static LinkHouse booted() {
+        LinkHouse x = Bench.house(Elf.program());
+        x.link(false);
+        x.boot(false);
+        x.feed(3, 5);
+        return x;
+    }
+
+    private static void refuse(Bench.Maker maker) {
         Class<NoSuchElementException> none = NoSuchElementException.class;
-        dueSame(x, "feed 0", IllegalArgumentException.class, () -> x.feed(0, 1));
-        dueSame(x, "feed 9", IllegalArgumentException.class, () -> x.feed(9, 1));
-        dueSame(x, "named", IllegalStateException.class, () -> x.named());
-        dueSame(x, "map", IllegalStateException.class, () -> x.map());
-        dueSame(x, "address", IllegalStateException.class, () -> x.address());
-        dueSame(x, "section", IllegalStateException.class, () -> x.section(0, 0));
-        dueSame(x, "place", IllegalStateException.class, () -> x.place(0));
-        dueSame(x, "list", none, () -> x.list(8, 0));
-        dueSame(x, "sum", none, () -> x.sum(8, 0, 0));
-        dueSame(x, "sum of group 6", none, () -> x.sum(0, 0, 6));
-        dueSame(x, "taken", none, () -> x.taken(8, 0) ? 1 : 0);
-        dueSame(x, "cause", none, () -> x.cause(8, 0));
-        dueSame(x, "out", none, () -> x.out((int) x.look(2)));
-        dueSame(x, "look", IllegalArgumentException.class, () -> x.look(19));
+        Class<IllegalArgumentException> argument = IllegalArgumentException.class;
+        Class<IllegalStateException> state = IllegalStateException.class;
+        dueSame(maker, "feed 0", argument, x -> x.feed(0, 1));
+        dueSame(maker, "feed 9", argument, x -> x.feed(9, 1));
+        dueSame(maker, "named", state, x -> x.named());
+        dueSame(maker, "map", state, x -> x.map());
+        dueSame(maker, "address", state, x -> x.address());
+        dueSame(maker, "section", state, x -> x.section(0, 0));
+        dueSame(maker, "place", state, x -> x.place(0));
+        dueSame(maker, "list", none, x -> x.list(8, 0));
+        dueSame(maker, "sum", none, x -> x.sum(8, 0, 0));
+        dueSame(maker, "sum of group 6", none, x -> x.sum(0, 0, 6));
+        dueSame(maker, "taken", none, x -> x.taken(8, 0) ? 1 : 0);
+        dueSame(maker, "cause", none, x -> x.cause(8, 0));
+        dueSame(maker, "out", none, x -> x.out((int) x.look(2)));
+        dueSame(maker, "look", argument, x -> x.look(19));
     }
 }

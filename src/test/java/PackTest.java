@@ -5,7 +5,6 @@ final class PackTest {
         several();
         again();
         tooMany();
-        tooLarge();
         Bench.end();
     }
 
@@ -75,26 +74,5 @@ final class PackTest {
         Bench.due("add", Bench.add(x, small), 0);
         Bench.due("eight", x.pack(), -1);
         Bench.due("OUT stays", x.look(2), n);
-    }
-
-    /** An object of so many bytes. */
-    private static byte[] sized(int length) {
-        Elf empty = new Elf();
-        empty.section(1, 0, 1, new byte[0]);
-        Elf elf = new Elf();
-        elf.section(1, 0, 1, new byte[length - empty.build().length]);
-        return elf.build();
-    }
-
-    private static void tooLarge() {
-        LinkHouse x = new LinkHouse();
-        int rest = 8192 - (8 + 60 + 4) - 60 - 4000 - 60;
-        Bench.due("add", Bench.add(x, sized(4000)), 0);
-        Bench.due("add", Bench.add(x, sized(rest)), 0);
-        Bench.due("8192 bytes", x.pack(), 8192);
-        x.drop();
-        Bench.due("add", Bench.add(x, sized(rest + 1)), 0);
-        Bench.due("more", x.pack(), -1);
-        Bench.due("OUT stays", x.look(2), 8192);
     }
 }

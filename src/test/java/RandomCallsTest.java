@@ -3,13 +3,16 @@ import java.util.Random;
 
 /** Random calls, good and damaged files: nothing but the document's exceptions ever comes out. */
 final class RandomCallsTest {
-    private static final int RUNS = 400;
-    private static final int CALLS = 60;
+    private static final int RUNS = 600;
+    private static final int STEPS = 60;
+    /** What an object is made for. */
+    private static final int CALLS = 512;
     private static final long[] ODD = {0, 1, 2, 3, 4, 8, 16, 17, 24, 25, 63, 64, 255, 0xfff1,
         0xfff2, 16384, 16385, 65536, 1L << 31, 0xffffffffL, 1L << 47, Long.MIN_VALUE, -1, -8};
 
     private final Random random;
     private LinkHouse house;
+    private int calls;
 
     private RandomCallsTest(long seed) {
         random = new Random(seed);
@@ -19,7 +22,7 @@ final class RandomCallsTest {
         for (int run = 0; run < RUNS; run++) {
             RandomCallsTest test = new RandomCallsTest(run);
             test.house = new LinkHouse();
-            for (int k = 0; k < CALLS; k++) {
+            for (int k = 0; k < STEPS; k++) {
                 test.step(run);
             }
         }
@@ -49,10 +52,29 @@ final class RandomCallsTest {
         return ODD[random.nextInt(ODD.length)];
     }
 
+    /** Whether so many calls more may be made; they count then. */
+    private boolean may(int more) {
+        if (calls + more > CALLS) {
+            return false;
+        }
+        calls += more;
+        return true;
+    }
+
+    private void addFile() {
+        byte[] file = file();
+        if (may(file.length / 8 + 2)) {
+            Bench.add(house, file);
+        }
+    }
+
     private void act(int call) {
+        if (!may(4)) {
+            return;
+        }
         switch (call) {
             case 0: house.feed(small(), random.nextLong()); break;
-            case 1: case 2: case 3: case 4: case 5: Bench.add(house, file()); break;
+            case 1: case 2: case 3: case 4: case 5: addFile(); break;
             case 6: house.drop(); break;
             case 7: case 8: case 9: house.link(random.nextBoolean()); break;
             case 10: case 11: house.merge(); break;
@@ -86,9 +108,8 @@ final class RandomCallsTest {
     }
 
     private void bootDamaged() {
-        byte[] file = Bench.out(house);
-        if (file.length <= 8192 - house.look(1)) {
-            Bench.feed(house, damaged(file));
+        if (may((int) house.look(2) / 4 + 4)) {
+            Bench.feed(house, damaged(Bench.out(house)));
             house.boot(true);
         }
     }

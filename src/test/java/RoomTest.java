@@ -41,7 +41,7 @@ final class RoomTest {
     }
 
     private static void dear(LinkHouse x) {
-        for (int k = 0; k < 60; k++) {
+        for (int k = 0; k < 40; k++) {
             x.link(k % 2 == 0);
             x.named();
             x.boot(false);

@@ -5,7 +5,6 @@ final class TapeTest {
     public static void main(String[] args) {
         newObject();
         feed();
-        fullTape();
         give();
         wish();
         lists();
@@ -49,21 +48,6 @@ final class TapeTest {
             Bench.dueThrow("feed " + n, IllegalArgumentException.class, () -> x.feed(n, 1));
         }
         Bench.due("the tape after refusals", x.look(1), before);
-    }
-
-    private static void fullTape() {
-        LinkHouse x = new LinkHouse();
-        for (int k = 0; k < 1023; k++) {
-            x.feed(8, k);
-        }
-        Bench.due("feed 7", x.feed(7, 0), 8191);
-        Bench.dueThrow("feed 2 beyond", IllegalStateException.class, () -> x.feed(2, 0));
-        Bench.dueThrow("feed 9 beyond", IllegalArgumentException.class, () -> x.feed(9, 0));
-        Bench.due("feed 1", x.feed(1, 0), 8192);
-        Bench.dueThrow("feed 1 beyond", IllegalStateException.class, () -> x.feed(1, 0));
-        Bench.due("a full tape is no name", x.look(1), 8192);
-        Bench.dueThrow("give", IllegalArgumentException.class, () -> x.give(0));
-        Bench.due("it is used up", x.look(1), 0);
     }
 
     private static void give() {
