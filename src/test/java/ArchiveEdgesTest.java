@@ -5,6 +5,7 @@ import java.util.NoSuchElementException;
 final class ArchiveEdgesTest {
     public static void main(String[] args) {
         emptyMembers();
+        freeBytesAhead();
         oddSizes();
         membersOfNeighbours();
         doubleInMember();
@@ -59,12 +60,31 @@ final class ArchiveEdgesTest {
         due("a sign", head + ahead("/", "+0", "`\n"), 8);
         due("a byte below the digits", head + ahead("/", "/", "`\n"), 8);
         due("a byte above the digits", head + ahead("/", ":", "`\n"), 8);
+        due("a byte above them, as if 20 were told",
+                head + ahead("/", "1:", "`\n") + "x".repeat(20), 8);
+        due("one below them, as if 189 were told",
+                head + ahead("/", "19/", "`\n") + "x".repeat(189) + "\n", 8);
         due("all ten digits 0", head + ahead("/", "0000000000", "`\n"), 0);
         due("no digit", head + ahead("/", "", "`\n"), 8);
         due("59 bytes ahead", head + ahead("/", "0", "`"), 8);
         due("a byte 0x2f ahead counts", head + ahead("/names", "1", "`\n") + "x\n", 0);
         due("a byte 0x2f further on does not", head + ahead("a/", "1", "`\n") + "x\n", 1);
         due("another eighth byte", "!<arch>\r", 1);
+    }
+
+    /** Of the 48 bytes ahead of a member's size only the first is looked at. */
+    private static void freeBytesAhead() {
+        byte[] good = Bench.archive(Bench.member("a/", defining("a")));
+        byte[] free = good.clone();
+        Arrays.fill(free, 9, 8 + 48, (byte) 0x2f);
+        for (int first : new int[] {0, 0x20, 0x2e, 0x30, 0xff}) {
+            LinkHouse x = new LinkHouse();
+            Bench.due("add", Bench.add(x, Bench.with(free, 8, 1, first)), 0);
+            Bench.due("an object behind a byte " + first, x.list(0, 0), 21);
+        }
+        LinkHouse x = new LinkHouse();
+        Bench.due("add", Bench.add(x, Bench.with(free, 8, 1, 0x2f)), 0);
+        Bench.dueThrow("no object", NoSuchElementException.class, () -> x.list(0, 0));
     }
 
     private static void oddSizes() {

@@ -9,6 +9,7 @@ final class MemoryEdgesTest {
         wholeRows();
         exactEnds();
         rowsBehindTheLast();
+        earlierRows();
         addresses();
         eightRows();
         emptyRows();
@@ -16,6 +17,7 @@ final class MemoryEdgesTest {
         entries();
         farAddresses();
         wholeNames();
+        freeBytesOfNames();
         nameSections();
         nameRows();
         firstSymbol();
@@ -116,8 +118,25 @@ final class MemoryEdgesTest {
         LinkHouse x = booted(Bench.with(fewer, ROW + 112 + 32, 8, -1));
         Bench.due("one loaded row", x.look(9), 1);
         Bench.due("no byte of the other", x.peek(0x2000), -1);
+        x = booted(Bench.with(fewer, 58, 2, 64));
+        Bench.due("one loaded row, whatever is at 58", x.look(9), 1);
         byte[] none = Bench.with(Exe.good(), 56, 2, 1);
         due("no loaded row", none, 6);
+        for (int k = 1; k < 4; k++) {
+            x = booted(withByte(Exe.good(), ROW + 112 + k));
+            Bench.due("a row whose TYPE is not 1 in its byte " + k, x.look(9), 1);
+            Bench.due("is not in memory", x.peek(0x2000), -1);
+        }
+    }
+
+    /** What an earlier executable had is gone, also its row behind the last one now. */
+    private static void earlierRows() {
+        LinkHouse x = booted(Exe.good());
+        Bench.feed(x, Bench.with(Exe.good(), 56, 2, 2));
+        Bench.due("boot", x.boot(true), 0);
+        Bench.due("the second row is gone", x.peek(0x2000), -1);
+        Bench.due("and its FLAGS", x.flags(0x2000), -1);
+        Bench.due("the first one is there", x.peek(0x1003), 4);
     }
 
     private static void addresses() {
@@ -252,6 +271,7 @@ final class MemoryEdgesTest {
         byte[] none = Bench.with(good, first + 6, 2, 0);
         dueNames("WHERE 0", none, 3);
         dueNames("WHERE 0 and a byte at 5", Bench.with(none, first + 5, 1, 9), 3);
+        dueNames("WHERE 0 and a VALUE", Bench.with(none, first + 8, 8, 0x1001), 3);
         dueNames("WHERE 0xffff", Bench.with(good, first + 6, 2, 0xffff), 4);
         for (int at : new int[] {59, 61, 42, 47}) {
             dueNames("the head's byte " + at, withByte(good, at), 0);
@@ -263,6 +283,33 @@ final class MemoryEdgesTest {
             dueNames("SIZE, its highest byte", withByte(good, row + 39), 0);
         }
         dueNames("LINK, its highest byte", withByte(good, rows[0] + 43), 0);
+    }
+
+    /** Bytes of the rows of sections and of symbols that the document does not tell of. */
+    private static void freeBytesOfNames() {
+        byte[] b = Exe.named();
+        for (int i = 0; i < 3; i++) {
+            int row = Elf.rowOf(b, i);
+            Arrays.fill(b, row, row + 4, (byte) 0xff);
+            Arrays.fill(b, row + 8, row + 24, (byte) 0xff);
+            Arrays.fill(b, row + 44, row + 64, (byte) 0xff);
+        }
+        int from = Elf.placeOf(b, 2);
+        for (int at = from; at < Elf.rowOf(b, 0); at += 24) {
+            b[at + 5] = (byte) 0xff;
+            Arrays.fill(b, at + 16, at + 24, (byte) 0xff);
+        }
+        Arrays.fill(b, from, from + 24, (byte) 0xff);
+        Bench.set(b, 62, 2, 0xffff);
+        LinkHouse x = booted(b);
+        Bench.due("names", x.look(18), 4);
+        Bench.due("near", x.near(0x1002), 0);
+        Bench.due("its name", Bench.outText(x), "bc");
+        byte[] good = Exe.named();
+        byte[] four = Bench.with(Bench.join(good, new byte[64]), 60, 2, 4);
+        int table = Elf.rowOf(good, 2);
+        System.arraycopy(good, table, four, table + 64, 64);
+        dueNames("TYPE 0x01000002 is not 2", withByte(four, table + 7), 4);
     }
 
     /** Both sections' bytes have to lie in it. */

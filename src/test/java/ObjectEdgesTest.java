@@ -7,6 +7,7 @@ final class ObjectEdgesTest {
         wholeRows();
         exactEnds();
         rowsBehindTheLast();
+        bytesThatAreFree();
         wholeSymbols();
         wholeSites();
         wholeGroups();
@@ -103,6 +104,100 @@ final class ObjectEdgesTest {
         due("one byte less", Arrays.copyOf(joined, joined.length - 1), 2);
     }
 
+    /** An object with some of everything. */
+    private static byte[] rich() {
+        Elf elf = new Elf();
+        int text = elf.text(0x48, 0x8b, 5, 0, 0, 0, 0, 0, 0, 0, 0, 0, 0, 0, 0, 0, 0, 0, 0, 0);
+        int data = elf.data(1, 2, 3);
+        elf.strings("ab\0b\0");
+        elf.section(1, Elf.THREADS, 8, Bench.bytes(4));
+        elf.section(7, 0, 1, Bench.bytes(5));
+        int start = elf.global("_start", text, 0);
+        int local = elf.local(3, 3, 0);
+        int weak = elf.weak("weak", 0, 0);
+        int common = elf.common("common", 8, 8);
+        int threads = elf.symbol("threads", Elf.GLOBAL, 6, 4, 0, 1);
+        elf.symbol("", Elf.LOCAL, 0, 5, 7, 0);
+        int sites = elf.sites(text);
+        elf.site(sites, 3, 41, common, -4).site(sites, 7, 10, local, 3)
+                .site(sites, 11, 9, weak, -4).site(sites, 15, 22, threads, -4);
+        elf.group(start, 1, data);
+        return elf.build();
+    }
+
+    /** The same object; all bytes that the document does not tell of are 255. */
+    private static byte[] filled(byte[] object) {
+        byte[] b = object.clone();
+        fill(b, 7, 16);
+        fill(b, 24, 40);
+        fill(b, 48, 52);
+        fill(b, 54, 58);
+        fill(b, 62, 64);
+        for (int i = 0; i < Bench.num(b, 60, 2); i++) {
+            int row = Elf.rowOf(b, i);
+            int type = (int) Bench.num(b, row + Elf.TYPE, 4);
+            fill(b, row, row + 4);
+            fill(b, row + 16, row + 24);
+            fill(b, row + 56, row + 64);
+            if (type != 1) {
+                fill(b, row + Elf.FLAGS, row + 16);
+                fill(b, row + Elf.ALIGN, row + 56);
+            }
+            if (type == 0) {
+                fill(b, row + Elf.PLACE, row + 64);
+            }
+            if (type == 1 || type == 3) {
+                fill(b, row + Elf.LINK, row + Elf.ALIGN);
+            }
+            if (type == 2) {
+                fill(b, row + Elf.INFO, row + Elf.ALIGN);
+                fillSymbols(b, Elf.placeOf(b, i), (int) Bench.num(b, row + Elf.SIZE, 8));
+            }
+        }
+        return b;
+    }
+
+    /** The first symbol, byte 5 of each, and NAME of local ones. */
+    private static void fillSymbols(byte[] b, int from, int size) {
+        fill(b, from, from + 24);
+        for (int at = from + 24; at < from + size; at += 24) {
+            fill(b, at + 5, at + 6);
+            if (b[at + 4] >> 4 == 0) {
+                fill(b, at, at + 4);
+            }
+        }
+    }
+
+    private static void fill(byte[] b, int from, int to) {
+        Arrays.fill(b, from, to, (byte) 0xff);
+    }
+
+    private static void bytesThatAreFree() {
+        LinkHouse x = new LinkHouse();
+        LinkHouse y = new LinkHouse();
+        Bench.due("add", Bench.add(x, rich()), 0);
+        Bench.due("add", Bench.add(y, filled(rich())), 0);
+        Bench.due("link", x.link(false), 0);
+        Bench.due("link", y.link(false), 0);
+        Bench.due("the same file", Bench.out(y), Bench.out(x));
+        Bench.due("slots", y.look(12), 2);
+        Bench.due("pool", y.look(14), 3);
+        Bench.due("map", y.map(), x.map());
+        Bench.due("the same map", Bench.outText(y), Bench.outText(x));
+        Bench.due("list", y.list(0, 0), x.list(0, 0));
+        Bench.due("the same list", Bench.outText(y), Bench.outText(x));
+        Bench.due("merge", x.merge(), 0);
+        Bench.due("merge", y.merge(), 0);
+        Bench.due("the same object", Bench.out(y), Bench.out(x));
+        Bench.due("link", x.link(true), 0);
+        Bench.due("link", y.link(true), 0);
+        Bench.due("the same file with REACHED", Bench.out(y), Bench.out(x));
+        LinkHouse z = new LinkHouse();
+        Bench.due("add", Bench.add(z, filled(Elf.program().build())), 0);
+        Bench.due("add", Bench.add(z, filled(Elf.program().build())), 0);
+        Bench.due("a double", z.link(false), 1);
+    }
+
     /** What lies behind row S - 1 is no section, whatever it says. */
     private static void rowsBehindTheLast() {
         byte[] good = Elf.program().build();
@@ -124,6 +219,7 @@ final class ObjectEdgesTest {
         }
         hiddenSites();
         hiddenGroup();
+        hiddenNames();
     }
 
     /** Sites in a row behind the last one fill nothing, reach nothing and merge nothing. */
@@ -154,6 +250,15 @@ final class ObjectEdgesTest {
         Bench.due("add", Bench.add(x, Elf.withRow(fewer, sites, Elf.INFO, strings)), 0);
         Bench.due("link", x.link(false), 0);
         Bench.due("strings without sites", x.look(14), 4);
+    }
+
+    private static void hiddenNames() {
+        Elf elf = Elf.program();
+        int table = elf.symbolsSection();
+        int hidden = elf.section(3, 0, 1, Bench.latin("\0_start\0"));
+        byte[] built = Elf.withRow(elf.build(), table, Elf.LINK, hidden);
+        due("names in a row", built, 0);
+        due("names behind the last row", Bench.with(built, 60, 2, hidden), 5);
     }
 
     private static void hiddenGroup() {
